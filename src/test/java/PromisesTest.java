@@ -1,825 +1,539 @@
-/** For each promise: ordinary inputs, the edges that the document names, and wrong inputs. */
+/** The sentences of Promise 1 to Promise 20, each with tests of its own: what is answered, and what is refused and when. */
 public final class PromisesTest {
-    private static final int BAD_ARG = -1;
-    private static final int FULL = -2;
-    private static final int NONE = -4;
-    private static final int LEAST = Integer.MIN_VALUE;
-    private static final int GREATEST = Integer.MAX_VALUE;
+    private static final String[] NO_VARIABLE = {"MIN", "-2147483647", "-4", "-1", "4", "5", "8", "256", "MAX"};
+    private static final String[] NO_UNIT = {"MIN", "-8", "-1", "0", "9", "16", "257", "MAX"};
+    private static final String[] NO_BYTE = {"MIN", "-256", "-255", "-1", "256", "257", "511", "65536", "MAX"};
 
-    private static int wrong = 0;
-    private static int promise = 0;
-
-    private static void due(String call, int got, int want) {
-        if (got != want) {
-            wrong++;
-            System.out.println("promise " + promise + ": " + call + " answered " + got + ", due is " + want);
+    /** Tested before the limits, so answered in every state. */
+    private static void badArgument(String call) {
+        for (String state : States.ALL) {
+            Calls.changesNothing(state, call + " = BAD_ARG");
         }
     }
 
-    private static BitSyntaxMatch fed(int... bytes) {
-        BitSyntaxMatch m = new BitSyntaxMatch();
-        feedAll(m, bytes);
-        return m;
+    /** Taken as the first segment of a rule and as the third. */
+    private static void taken(String call) {
+        Calls.run(call + " = 1; segments() = 1");
+        Calls.run(States.SOME + call + " = 3; segments() = 3");
     }
 
-    private static void feedAll(BitSyntaxMatch m, int... bytes) {
-        for (int b : bytes) {
-            m.feed(b);
+    private static void sixSegments(String call) {
+        Calls.run(call + " = 1; " + call + " = 2; " + call + " = 3; " + call + " = 4; " + call + " = 5; " + call + " = 6; "
+            + call + " = FULL; segments() = 6; scrap(); " + call + " = 1");
+        Calls.run("5 x rest(0); " + call + " = 6; " + call + " = FULL; segments() = 6; end(); " + call + " = 1");
+        Calls.changesNothing(States.SIX_IN_ONE, call + " = FULL");
+    }
+
+    private static void thirtySegments(String call) {
+        String fourRules = "6 x rest(0); end(); ".repeat(4);
+        Calls.run(fourRules + "5 x rest(0); " + call + " = 6; " + call + " = FULL; segments() = 6");
+        Calls.run(fourRules + "5 x rest(0); end(); " + call + " = 1; " + call + " = FULL; segments() = 1");
+        Calls.run(fourRules + "6 x rest(0); end(); " + call + " = FULL; segments() = 0; unend(); " + call + " = 1");
+        Calls.run("5 x rest(0); end(); ".repeat(5) + "4 x rest(0); " + call + " = 5; " + call + " = FULL; segments() = 5; "
+            + "scrap(); " + call + " = 1");
+        for (String state : States.NO_SEGMENT_MORE) {
+            Calls.changesNothing(state, call + " = FULL");
         }
     }
 
-    private static void refill(BitSyntaxMatch m, int... bytes) {
-        m.empty();
-        feedAll(m, bytes);
-    }
-
-    private static void endRules(BitSyntaxMatch m, int count) {
-        for (int n = 0; n < count; n++) {
-            m.end();
-        }
-    }
-
-    private static void appendLiterals(BitSyntaxMatch m, int count) {
-        for (int n = 0; n < count; n++) {
-            m.literal(0, 0);
-        }
-    }
-
-    /** Five rules of six segments, and none in the rule being made. */
-    private static BitSyntaxMatch withThirtySegments() {
-        BitSyntaxMatch m = new BitSyntaxMatch();
-        for (int n = 0; n < 5; n++) {
-            appendLiterals(m, 6);
-            m.end();
-        }
-        return m;
-    }
-
-    private static BitSyntaxMatch withSixSegments() {
-        BitSyntaxMatch m = new BitSyntaxMatch();
-        appendLiterals(m, 6);
-        return m;
+    private static void asLiteral(String promise, String call) {
+        Calls.sentence(promise + ": then as literal: the rule being made has 6 segments answers FULL");
+        sixSegments(call);
+        Calls.sentence(promise + ": then as literal: all rules and the one being made have 30 together answers FULL");
+        thirtySegments(call);
+        Calls.sentence(promise + ": then as literal: otherwise the number of its segments afterwards");
+        Calls.run("same(0, 0); " + call + " = 2; end(); " + call + " = 1; skip(0, 1); " + call + " = 3; segments() = 3");
     }
 
     private static void newObject() {
-        BitSyntaxMatch m = new BitSyntaxMatch();
-        due("segments()", m.segments(), 0);
-        due("rules()", m.rules(), 0);
-        due("match()", m.match(), NONE);
-        due("matchFrom(0)", m.matchFrom(0), NONE);
-        due("fitting()", m.fitting(), 0);
-        due("bound(0)", m.bound(0), 0);
-        due("boundBy(0, 0)", m.boundBy(0, 0), 0);
-        due("unend()", m.unend(), NONE);
-        due("put(0, 0)", m.put(0, 0), BAD_ARG);
-        due("end()", m.end(), 0);
-        due("match() of the empty rule on the empty buffer", m.match(), 0);
-        due("feed(9)", m.feed(9), 1);
-        BitSyntaxMatch other = new BitSyntaxMatch();
-        due("rules() of a second object", other.rules(), 0);
-        due("feed(1) of a second object", other.feed(1), 1);
+        Calls.sentence("1: The buffer is empty");
+        Calls.run("rest(0); end(); bound(0) = 0; put(0, 0) = BAD_ARG; feed(9) = 1");
+        Calls.run("end(); match() = 0");
+        Calls.run("8 x feed(1); feed(1) = FULL");
+        Calls.sentence("1: there is no rule");
+        Calls.run("rules() = 0; match() = NONE; matchFrom(0) = NONE; fitting() = 0; bound(0) = 0; boundBy(0, 0) = 0; "
+            + "unend() = NONE; end() = 0");
+        Calls.sentence("1: the rule being made has no segment");
+        Calls.run("segments() = 0; rest(0) = 1");
+        Calls.run("end(); feed(0); match() = NONE; empty(); match() = 0");
     }
 
-    private static void literalArguments() {
-        BitSyntaxMatch m = new BitSyntaxMatch();
-        int[][] refused = {{-1, 0}, {17, 0}, {32, 0}, {33, 0}, {LEAST, 0}, {GREATEST, 0}, {0, 1}, {0, -1}, {1, 2},
-            {3, 8}, {4, -1}, {16, 65536}, {16, -1}, {8, GREATEST}, {8, LEAST}};
-        for (int[] r : refused) {
-            due("literal(" + r[0] + ", " + r[1] + ")", m.literal(r[0], r[1]), BAD_ARG);
+    private static void literal() {
+        Calls.sentence("2: Appends literal w v to the rule being made.");
+        Calls.run("literal(4, 10) = 1; literal(8, 0x53) = 2; literal(4, 12) = 3; end() = 0; feed(0xA5); feed(0x3C); match() = 0; "
+            + "put(1, 0x3D); match() = NONE");
+        Calls.run("end(); literal(8, 5) = 1; match() = 0; feed(5); match() = NONE; end() = 1; match() = 1");
+        Calls.sentence("2: w not 0 to 16 answers BAD_ARG");
+        String[] noWidth = {"MIN", "-32", "-16", "-1", "17", "18", "31", "32", "33", "48", "64", "MAX"};
+        for (String w : noWidth) {
+            badArgument("literal(" + w + ", 0)");
+            badArgument("literal(" + w + ", 1)");
         }
-        due("segments() after refused calls", m.segments(), 0);
-        due("literal(0, 0)", m.literal(0, 0), 1);
-        due("literal(1, 1)", m.literal(1, 1), 2);
-        due("literal(16, 65535)", m.literal(16, 65535), 3);
-        due("literal(16, 0)", m.literal(16, 0), 4);
-        due("literal(3, 7)", m.literal(3, 7), 5);
-        due("literal(8, 0)", m.literal(8, 0), 6);
-        due("literal(8, 0) as the seventh", m.literal(8, 0), FULL);
-        due("literal(8, 256) as the seventh", m.literal(8, 256), BAD_ARG);
-        due("segments()", m.segments(), 6);
-    }
-
-    private static void literalMatching() {
-        BitSyntaxMatch m = fed(0xA5, 0x3C);
-        m.literal(4, 0xA);
-        m.literal(8, 0x53);
-        m.literal(4, 0xC);
-        m.end();
-        m.literal(16, 0xA53C);
-        m.end();
-        m.literal(16, 0xA53D);
-        m.end();
-        m.literal(8, 0xA5);
-        m.end();
-        m.literal(16, 0xA53C);
-        m.literal(1, 0);
-        m.end();
-        m.literal(0, 0);
-        m.literal(16, 0xA53C);
-        m.literal(0, 0);
-        m.end();
-        due("fitting() of literals", m.fitting(), 1 + 2 + 32);
-        m.empty();
-        due("fitting() of literals on no bits", m.fitting(), 0);
-    }
-
-    private static void segmentLimits() {
-        BitSyntaxMatch m = withThirtySegments();
-        due("rules()", m.rules(), 5);
-        due("literal(0, 0) as the 31st", m.literal(0, 0), FULL);
-        due("literal(0, 1) as the 31st", m.literal(0, 1), BAD_ARG);
-        due("segments()", m.segments(), 0);
-        due("end() of a rule without segments", m.end(), 5);
-        due("literal(0, 0) as the 31st with six rules", m.literal(0, 0), FULL);
-        m.unend();
-        m.unend();
-        due("literal(0, 0) as the 25th", m.literal(0, 0), 1);
-        appendLiterals(m, 4);
-        due("literal(0, 0) as the 30th", m.literal(0, 0), 6);
-        due("literal(0, 0) as the 31st and seventh", m.literal(0, 0), FULL);
-        m.scrap();
-        appendLiterals(m, 4);
-        due("end()", m.end(), 4);
-        due("literal(0, 0) as the 29th", m.literal(0, 0), 1);
-        due("literal(0, 0) as the 30th", m.literal(0, 0), 2);
-        due("literal(0, 0) as the 31st and third", m.literal(0, 0), FULL);
-        due("end()", m.end(), 5);
-        due("literal(0, 0) with 30 in six rules", m.literal(0, 0), FULL);
-        m.unend();
-        due("literal(0, 0) with 28 in five rules", m.literal(0, 0), 1);
-    }
-
-    private static void keptAcrossSixRules() {
-        BitSyntaxMatch m = new BitSyntaxMatch();
-        endRules(m, 6);
-        due("literal with six rules", m.literal(8, 1), 1);
-        due("end() with six rules", m.end(), FULL);
-        due("segments() after the refused end", m.segments(), 1);
-        due("unend()", m.unend(), 5);
-        due("segments() after unend", m.segments(), 1);
-        due("end()", m.end(), 5);
-        m.feed(1);
-        due("match()", m.match(), 5);
-    }
-
-    private static void fieldArguments() {
-        BitSyntaxMatch m = new BitSyntaxMatch();
-        int[][] refused = {{-1, 8, 0}, {4, 8, 0}, {LEAST, 8, 0}, {GREATEST, 8, 0}, {0, -1, 0}, {0, 33, 0},
-            {0, LEAST, 0}, {0, GREATEST, 0}, {0, 8, -1}, {0, 8, 4}, {0, 8, LEAST}, {0, 8, GREATEST}, {0, 0, 2},
-            {0, 0, 3}, {0, 7, 2}, {0, 9, 3}, {0, 12, 2}, {0, 31, 3}, {0, 4, 2}, {0, 20, 3}, {0, 40, 2}, {0, -8, 2}};
-        for (int[] r : refused) {
-            due("field(" + r[0] + ", " + r[1] + ", " + r[2] + ")", m.field(r[0], r[1], r[2]), BAD_ARG);
+        for (int w = 0; w <= 16; w++) {
+            taken("literal(" + w + ", 0)");
         }
-        due("segments() after refused calls", m.segments(), 0);
-        int[][] taken = {{0, 0, 0}, {3, 32, 1}, {1, 8, 2}, {2, 16, 3}, {0, 24, 2}, {0, 32, 3}};
-        for (int n = 0; n < taken.length; n++) {
-            int[] t = taken[n];
-            due("field(" + t[0] + ", " + t[1] + ", " + t[2] + ")", m.field(t[0], t[1], t[2]), n + 1);
+        Calls.sentence("2: or v not 0 to 2 to the power w minus 1, answers BAD_ARG");
+        for (int w = 0; w <= 16; w++) {
+            badArgument("literal(" + w + ", -1)");
+            badArgument("literal(" + w + ", " + (1 << w) + ")");
+            taken("literal(" + w + ", " + ((1 << w) - 1) + ")");
         }
-        due("field(0, 8, 0) as the seventh", m.field(0, 8, 0), FULL);
-        due("field(0, 12, 2) as the seventh", m.field(0, 12, 2), BAD_ARG);
-        due("field(0, 8, 0) as the 31st", withThirtySegments().field(0, 8, 0), FULL);
+        badArgument("literal(16, MIN)");
+        badArgument("literal(16, MAX)");
+        badArgument("literal(0, MIN)");
+        badArgument("literal(0, MAX)");
+        badArgument("literal(4, 65535)");
+        Calls.sentence("2: the rule being made has 6 segments answers FULL");
+        sixSegments("literal(8, 255)");
+        Calls.sentence("2: or all rules and the one being made have 30 together, answers FULL");
+        thirtySegments("literal(8, 255)");
+        Calls.sentence("2: Otherwise the number of its segments afterwards.");
+        Calls.run("rest(0); literal(0, 0) = 2; end(); literal(16, 65535) = 1; rest(0); rest(0); literal(1, 1) = 4; segments() = 4");
     }
 
-    private static void fieldDue(int skipped, int w, int flags, int want, int... bytes) {
-        BitSyntaxMatch m = fed(bytes);
-        m.field(1, skipped, 0);
-        m.field(0, w, flags);
-        m.rest(2);
-        m.end();
-        String call = "bound(0) of field(0, " + w + ", " + flags + ") at bit " + skipped;
-        due(call, m.bound(0), want);
-        due(call + ": bits left", m.bound(2), 8 * bytes.length - skipped - w);
-    }
-
-    private static void fieldMatching() {
-        fieldDue(0, 8, 0, 200, 200);
-        fieldDue(0, 8, 1, -56, 200);
-        fieldDue(0, 8, 2, 200, 200);
-        fieldDue(0, 8, 3, -56, 200);
-        fieldDue(0, 8, 1, 127, 127);
-        fieldDue(0, 0, 1, 0, 255);
-        fieldDue(0, 0, 0, 0, 255);
-        fieldDue(8, 0, 1, 0, 255);
-        fieldDue(0, 1, 0, 1, 128);
-        fieldDue(0, 1, 1, -1, 128);
-        fieldDue(3, 4, 0, 9, 0x12);
-        fieldDue(3, 4, 1, -7, 0x12);
-        fieldDue(0, 31, 0, GREATEST, 255, 255, 255, 255);
-        fieldDue(0, 31, 1, -1, 255, 255, 255, 255);
-        fieldDue(0, 31, 1, -1073741824, 128, 0, 0, 0);
-        fieldDue(1, 31, 0, 1 << 30, 0x40, 0, 0, 0);
-        fieldDue(0, 32, 0, LEAST, 128, 0, 0, 0);
-        fieldDue(0, 32, 1, LEAST, 128, 0, 0, 0);
-        fieldDue(0, 32, 0, -1, 255, 255, 255, 255);
-        fieldDue(0, 32, 0, 0x01020304, 1, 2, 3, 4);
-        fieldDue(0, 32, 2, 0x04030201, 1, 2, 3, 4);
-        fieldDue(0, 32, 2, 0x81030201, 1, 2, 3, 0x81);
-        fieldDue(0, 32, 3, 0x81030201, 1, 2, 3, 0x81);
-        fieldDue(0, 24, 0, 0x810203, 0x81, 2, 3, 4);
-        fieldDue(0, 24, 1, 0xFF810203, 0x81, 2, 3, 4);
-        fieldDue(0, 24, 2, 0x830281, 0x81, 2, 0x83, 4);
-        fieldDue(0, 24, 3, 0xFF830281, 0x81, 2, 0x83, 4);
-        fieldDue(0, 24, 3, 0x030281, 0x81, 2, 3, 4);
-        fieldDue(0, 16, 2, 0xC802, 2, 200);
-        fieldDue(0, 16, 3, -14334, 2, 200);
-        fieldDue(0, 16, 3, 0x02C8, 200, 2);
-        fieldDue(4, 16, 2, 0x4523, 0x12, 0x34, 0x56);
-        fieldDue(4, 16, 3, 0xFFFF8523, 0x12, 0x38, 0x56);
-        fieldDue(31, 32, 0, 0xFFFFFFFF, 0, 0, 0, 1, 255, 255, 255, 254);
-        fieldDue(32, 32, 2, 0x08070605, 1, 2, 3, 4, 5, 6, 7, 8);
-    }
-
-    private static void fieldWidths() {
-        BitSyntaxMatch m = fed(1, 2);
-        m.field(0, 17, 0);
-        m.end();
-        m.field(0, 15, 0);
-        m.end();
-        m.field(0, 24, 2);
-        m.end();
-        m.field(0, 16, 0);
-        m.end();
-        m.field(0, 8, 0);
-        m.field(0, 8, 0);
-        m.end();
-        due("fitting() of fields", m.fitting(), 8 + 16);
-        due("boundBy(4, 0): the later field counts", m.boundBy(4, 0), 2);
-    }
-
-    private static void sizedArguments() {
-        BitSyntaxMatch m = new BitSyntaxMatch();
-        int[][] refused = {{-1, 0, 1}, {4, 0, 1}, {0, -1, 1}, {0, 4, 1}, {0, 0, 0}, {0, 0, 9}, {0, 0, -1},
-            {LEAST, 0, 1}, {GREATEST, 0, 1}, {0, LEAST, 1}, {0, GREATEST, 1}, {0, 0, LEAST}, {0, 0, GREATEST}};
-        for (int[] r : refused) {
-            due("sized(" + r[0] + ", " + r[1] + ", " + r[2] + ")", m.sized(r[0], r[1], r[2]), BAD_ARG);
+    private static void field() {
+        Calls.sentence("3: Appends field x w s e, with flags = s + 2 e.");
+        Calls.run("field(0, 16, 0); end(); field(0, 16, 1); end(); field(0, 16, 2); end(); field(0, 16, 3); end(); feed(0x82); "
+            + "feed(0x81); boundBy(0, 0) = 0x8281; boundBy(1, 0) = -32127; boundBy(2, 0) = 0x8182; boundBy(3, 0) = -32382");
+        Calls.sentence("3: x not 0 to 3 answers BAD_ARG");
+        for (String x : NO_VARIABLE) {
+            badArgument("field(" + x + ", 8, 0)");
+            badArgument("field(" + x + ", 32, 3)");
         }
-        due("segments() after refused calls", m.segments(), 0);
-        due("sized(0, 3, 1)", m.sized(0, 3, 1), 1);
-        due("sized(3, 0, 8)", m.sized(3, 0, 8), 2);
-        appendLiterals(m, 4);
-        due("sized(0, 0, 1) as the seventh", m.sized(0, 0, 1), FULL);
-        due("sized(0, 0, 9) as the seventh", m.sized(0, 0, 9), BAD_ARG);
-        due("sized(0, 0, 1) as the 31st", withThirtySegments().sized(0, 0, 1), FULL);
-    }
-
-    private static void sizedMatching() {
-        BitSyntaxMatch m = fed(4, 0x81, 2, 3, 4);
-        m.field(0, 8, 0);
-        m.sized(1, 0, 8);
-        m.rest(2);
-        m.end();
-        due("sized 32 bits", m.bound(1), 0x81020304);
-        due("sized 32 bits: none left", m.bound(2), 0);
-        m.put(0, 3);
-        due("sized 24 bits", m.bound(1), 0x810203);
-        m.put(0, 1);
-        due("sized 8 bits is not signed", m.bound(1), 0x81);
-        m.put(0, 0);
-        due("sized 0 bits", m.bound(1), 0);
-        due("sized 0 bits: left", m.bound(2), 32);
-        m.put(0, 5);
-        due("sized 40 bits, 32 left", m.match(), NONE);
-        m.feed(5);
-        due("sized 40 bits, 40 left", m.match(), NONE);
-        m.put(0, 4);
-        due("sized 32 bits, 40 left", m.bound(2), 8);
-        refill(m, 3, 1, 2);
-        due("sized 24 bits, 16 left", m.match(), NONE);
-        refill(m, 2, 1, 2);
-        due("sized 16 bits, 16 left", m.bound(1), 258);
-    }
-
-    private static void sizedByUnit() {
-        BitSyntaxMatch m = fed(33, 1, 2, 3, 4, 5);
-        m.field(0, 8, 1);
-        m.sized(1, 0, 1);
-        m.rest(2);
-        m.end();
-        due("sized 33 bits", m.match(), NONE);
-        m.put(0, 32);
-        due("sized 32 bits", m.bound(1), 0x01020304);
-        m.put(0, 255);
-        due("sized -1 bits", m.match(), NONE);
-        m.put(0, 7);
-        m.put(1, 0xFE);
-        due("sized 7 bits", m.bound(1), 127);
-        m.unend();
-        m.field(0, 8, 0);
-        m.sized(0, 0, 3);
-        m.sized(3, 0, 1);
-        m.rest(2);
-        m.end();
-        refill(m, 1, 0x5F, 0xFF);
-        due("sized takes its own variable's old value", m.bound(0), 2);
-        due("sized reads the variable at this moment", m.bound(3), 3);
-        due("bits left", m.bound(2), 11);
-    }
-
-    private static void sizedByUnbound() {
-        BitSyntaxMatch m = fed(255);
-        m.field(0, 8, 0);
-        m.sized(0, 1, 8);
-        m.end();
-        due("match(): the width is a variable that is still 0", m.match(), 0);
-        due("bound(0): sized 0 bits makes it 0", m.bound(0), 0);
-    }
-
-    /** A product of ints that wraps round to a width that fits. */
-    private static void wrappedProducts() {
-        BitSyntaxMatch m = fed(0x20, 0, 0, 1, 0xAB);
-        m.field(0, 32, 0);
-        m.sized(1, 0, 8);
-        m.end();
-        m.field(0, 32, 0);
-        m.skip(0, 8);
-        m.end();
-        due("fitting(): 2^29 + 1 times 8 is 8", m.fitting(), 3);
-        due("boundBy(0, 1)", m.boundBy(0, 1), 0xAB);
-        m.put(0, 0xE0);
-        due("fitting(): -2^29 + 1 times 8 is 8", m.fitting(), 3);
-        m.put(0, 0x80);
-        due("fitting(): -2^31 + 1 times 8 is 8", m.fitting(), 3);
-        m.put(0, 0x10);
-        due("fitting(): 2^28 + 1 times 8 is negative", m.fitting(), 0);
-        m.put(0, 0x0F);
-        due("fitting(): far more than is left", m.fitting(), 0);
-    }
-
-    private static void skipArguments() {
-        BitSyntaxMatch m = new BitSyntaxMatch();
-        int[][] refused = {{-1, 1}, {4, 1}, {0, 0}, {0, 9}, {0, -1}, {LEAST, 1}, {GREATEST, 1}, {0, LEAST}, {0, GREATEST}};
-        for (int[] r : refused) {
-            due("skip(" + r[0] + ", " + r[1] + ")", m.skip(r[0], r[1]), BAD_ARG);
+        for (int x = 0; x <= 3; x++) {
+            taken("field(" + x + ", 8, 0)");
+            Calls.run("field(" + x + ", 8, 0); end(); feed(77); bound(" + x + ") = 77");
         }
-        due("segments() after refused calls", m.segments(), 0);
-        due("skip(0, 1)", m.skip(0, 1), 1);
-        due("skip(3, 8)", m.skip(3, 8), 2);
-        appendLiterals(m, 4);
-        due("skip(0, 1) as the seventh", m.skip(0, 1), FULL);
-        due("skip(0, 0) as the seventh", m.skip(0, 0), BAD_ARG);
-        due("skip(0, 1) as the 31st", withThirtySegments().skip(0, 1), FULL);
-    }
-
-    private static void skipMatching() {
-        BitSyntaxMatch m = fed(7, 1, 2, 3, 4, 5, 6, 9);
-        m.field(2, 8, 1);
-        m.skip(2, 8);
-        m.rest(1);
-        m.end();
-        due("skip 56 bits, all that are left", m.match(), 0);
-        due("bound(2)", m.bound(2), 7);
-        m.put(0, 8);
-        due("skip 64 bits, 56 left", m.match(), NONE);
-        m.put(0, 5);
-        due("skip 40 bits: more than 32 is fine", m.bound(1), 16);
-        m.put(0, 0);
-        due("skip 0 bits", m.bound(1), 56);
-        m.put(0, 255);
-        due("skip -8 bits", m.match(), NONE);
-        m.unend();
-        m.field(2, 8, 0);
-        m.skip(2, 3);
-        m.field(3, 5, 0);
-        m.rest(1);
-        m.end();
-        refill(m, 1, 0xF5);
-        due("skip 3 bits, then a field", m.bound(3), 0x15);
-        m.put(0, 3);
-        due("skip 9 bits, 8 left", m.match(), NONE);
-    }
-
-    private static void sameArguments() {
-        BitSyntaxMatch m = new BitSyntaxMatch();
-        int[][] refused = {{-1, 0}, {4, 0}, {0, -1}, {0, 4}, {LEAST, 0}, {GREATEST, 0}, {0, LEAST}, {0, GREATEST}};
-        for (int[] r : refused) {
-            due("same(" + r[0] + ", " + r[1] + ")", m.same(r[0], r[1]), BAD_ARG);
+        Calls.sentence("3: w not 0 to 32 answers BAD_ARG");
+        String[] noWidth = {"MIN", "-32", "-8", "-1", "33", "34", "40", "64", "MAX"};
+        for (String w : noWidth) {
+            for (int flags = 0; flags <= 3; flags++) {
+                badArgument("field(0, " + w + ", " + flags + ")");
+            }
         }
-        due("segments() after refused calls", m.segments(), 0);
-        due("same(0, 3)", m.same(0, 3), 1);
-        due("same(3, 3)", m.same(3, 3), 2);
-        appendLiterals(m, 4);
-        due("same(0, 1) as the seventh", m.same(0, 1), FULL);
-        due("same(0, 4) as the seventh", m.same(0, 4), BAD_ARG);
-        due("same(0, 1) as the 31st", withThirtySegments().same(0, 1), FULL);
-    }
-
-    private static void sameMatching() {
-        BitSyntaxMatch m = fed(5, 5);
-        m.field(0, 8, 0);
-        m.field(3, 8, 0);
-        m.same(0, 3);
-        m.end();
-        m.field(0, 8, 0);
-        m.same(0, 3);
-        m.field(3, 8, 0);
-        m.end();
-        m.same(1, 2);
-        m.field(0, 16, 0);
-        m.same(0, 0);
-        m.end();
-        m.field(0, 8, 0);
-        m.same(3, 0);
-        m.rest(1);
-        m.end();
-        m.field(0, 8, 0);
-        m.field(1, 8, 1);
-        m.same(1, 0);
-        m.end();
-        due("fitting() of same", m.fitting(), 1 + 4 + 16);
-        m.put(1, 6);
-        due("fitting() of same on two numbers", m.fitting(), 4);
-        m.put(0, 0);
-        m.put(1, 0);
-        due("fitting() of same on zeros", m.fitting(), 31);
-        m.put(0, 255);
-        m.put(1, 255);
-        due("fitting(): 255 is not -1", m.fitting(), 1 + 4);
-    }
-
-    private static void restArguments() {
-        BitSyntaxMatch m = new BitSyntaxMatch();
-        int[] refused = {-1, 4, LEAST, GREATEST};
-        for (int r : refused) {
-            due("rest(" + r + ")", m.rest(r), BAD_ARG);
+        for (int w = 0; w <= 32; w++) {
+            taken("field(3, " + w + ", 0)");
+            taken("field(3, " + w + ", 1)");
         }
-        due("segments() after refused calls", m.segments(), 0);
-        due("rest(0)", m.rest(0), 1);
-        due("rest(3)", m.rest(3), 2);
-        appendLiterals(m, 4);
-        due("rest(0) as the seventh", m.rest(0), FULL);
-        due("rest(4) as the seventh", m.rest(4), BAD_ARG);
-        due("rest(0) as the 31st", withThirtySegments().rest(0), FULL);
-    }
-
-    private static void restMatching() {
-        BitSyntaxMatch m = new BitSyntaxMatch();
-        m.rest(3);
-        m.end();
-        due("rest of the empty buffer fits", m.match(), 0);
-        due("rest of the empty buffer", m.bound(3), 0);
-        feedAll(m, 1, 2, 3, 4, 5, 6, 7, 8);
-        due("rest of the full buffer", m.bound(3), 64);
-        m.field(1, 5, 0);
-        m.rest(0);
-        m.rest(1);
-        m.literal(0, 0);
-        m.end();
-        due("rest behind 5 bits", m.boundBy(1, 0), 59);
-        due("rest behind rest", m.boundBy(1, 1), 0);
-        m.rest(0);
-        m.literal(1, 0);
-        m.end();
-        m.rest(0);
-        m.field(1, 1, 0);
-        m.end();
-        due("fitting(): no bit is left behind rest", m.fitting(), 3);
-    }
-
-    private static void segmentCounts() {
-        BitSyntaxMatch m = fed(1);
-        due("segments()", m.segments(), 0);
-        int[] answers = {m.literal(1, 1), m.field(0, 1, 0), m.sized(0, 1, 1), m.skip(0, 1), m.same(0, 1), m.rest(0)};
-        for (int n = 0; n < answers.length; n++) {
-            due("the segment appended as number " + (n + 1), answers[n], n + 1);
+        Calls.sentence("3: flags not 0 to 3 answers BAD_ARG");
+        String[] noFlags = {"MIN", "-4", "-2", "-1", "4", "5", "6", "8", "MAX"};
+        for (String flags : noFlags) {
+            badArgument("field(0, 8, " + flags + ")");
+            badArgument("field(0, 7, " + flags + ")");
         }
-        due("segments() after one of each", m.segments(), 6);
-        m.match();
-        m.empty();
-        due("segments() after match and empty", m.segments(), 6);
-        m.end();
-        due("segments() after end", m.segments(), 0);
-    }
-
-    private static void scraps() {
-        BitSyntaxMatch m = new BitSyntaxMatch();
-        m.literal(8, 1);
-        m.end();
-        due("segments() after end", m.segments(), 0);
-        m.literal(8, 2);
-        m.rest(0);
-        due("segments()", m.segments(), 2);
-        m.scrap();
-        due("segments() after scrap", m.segments(), 0);
-        due("rules() after scrap", m.rules(), 1);
-        m.feed(1);
-        due("match() after scrap", m.match(), 0);
-        m.scrap();
-        due("segments() after a second scrap", m.segments(), 0);
-        due("literal(8, 3) after scrap", m.literal(8, 3), 1);
-        due("end()", m.end(), 1);
-        due("bytes are not scrapped", m.feed(2), 2);
-        refill(m, 3);
-        due("match() of the rule after scrap", m.match(), 1);
-        BitSyntaxMatch full = withSixSegments();
-        full.scrap();
-        due("literal(0, 0) after scrap of six", full.literal(0, 0), 1);
-    }
-
-    private static void ends() {
-        BitSyntaxMatch m = new BitSyntaxMatch();
-        for (int n = 0; n < 6; n++) {
-            m.literal(8, n);
-            due("end()", m.end(), n);
-            due("rules()", m.rules(), n + 1);
-            due("segments()", m.segments(), 0);
+        for (int flags = 0; flags <= 3; flags++) {
+            taken("field(0, 8, " + flags + ")");
         }
-        m.rest(0);
-        due("end() of a seventh", m.end(), FULL);
-        due("rules() after the refused end", m.rules(), 6);
-        due("segments() after the refused end", m.segments(), 1);
-        for (int n = 0; n < 6; n++) {
-            refill(m, n);
-            due("match() on " + n, m.match(), n);
-            due("fitting() on " + n, m.fitting(), 1 << n);
+        Calls.sentence("3: or flags 2 or 3 with w not 8, 16, 24 or 32, answers BAD_ARG");
+        for (int w = 0; w <= 32; w++) {
+            if (w == 8 || w == 16 || w == 24 || w == 32) {
+                taken("field(1, " + w + ", 2)");
+                taken("field(1, " + w + ", 3)");
+            } else {
+                badArgument("field(1, " + w + ", 2)");
+                badArgument("field(1, " + w + ", 3)");
+            }
         }
-        refill(m, 6);
-        due("match(): the rule being made does not match", m.match(), NONE);
+        asLiteral("3", "field(0, 8, 3)");
     }
 
-    private static void unends() {
-        BitSyntaxMatch m = fed(1);
-        m.literal(8, 1);
-        m.end();
-        m.rest(0);
-        m.end();
-        m.field(2, 4, 0);
-        due("unend()", m.unend(), 1);
-        due("rules()", m.rules(), 1);
-        due("segments(): the rule being made stays", m.segments(), 1);
-        due("fitting()", m.fitting(), 1);
-        due("matchFrom(1)", m.matchFrom(1), NONE);
-        due("boundBy(1, 0): there is no rule 1 any more", m.boundBy(1, 0), 0);
-        due("field(1, 4, 0)", m.field(1, 4, 0), 2);
-        due("end()", m.end(), 1);
-        due("boundBy(1, 1)", m.boundBy(1, 1), 1);
-        due("unend()", m.unend(), 1);
-        due("segments(): the removed rule does not come back", m.segments(), 0);
-        due("unend()", m.unend(), 0);
-        due("unend() of none", m.unend(), NONE);
-        due("rules()", m.rules(), 0);
-        due("end()", m.end(), 0);
-    }
-
-    private static void counts() {
-        BitSyntaxMatch m = new BitSyntaxMatch();
-        due("rules()", m.rules(), 0);
-        endRules(m, 4);
-        due("rules()", m.rules(), 4);
-        m.unend();
-        due("rules()", m.rules(), 3);
-        m.empty();
-        m.scrap();
-        due("rules() after empty and scrap", m.rules(), 3);
-        endRules(m, 9);
-        due("rules()", m.rules(), 6);
-    }
-
-    private static void feeds() {
-        BitSyntaxMatch m = new BitSyntaxMatch();
-        int[] refused = {-1, 256, LEAST, GREATEST};
-        for (int b : refused) {
-            due("feed(" + b + ")", m.feed(b), BAD_ARG);
+    private static void sized() {
+        Calls.sentence("4: Appends sized x y u.");
+        Calls.run("field(2, 4, 0); sized(1, 2, 3); rest(0); end() = 0; feed(0x2F); feed(0x80); match() = 0; bound(1) = 62; bound(0) = 6");
+        Calls.sentence("4: x or y not 0 to 3 answers BAD_ARG");
+        for (String x : NO_VARIABLE) {
+            badArgument("sized(" + x + ", 0, 1)");
+            badArgument("sized(0, " + x + ", 1)");
+            badArgument("sized(" + x + ", " + x + ", 8)");
         }
-        for (int n = 1; n <= 8; n++) {
-            due("feed(" + (n == 1 ? 255 : n - 2) + ")", m.feed(n == 1 ? 255 : n - 2), n);
+        for (int x = 0; x <= 3; x++) {
+            for (int y = 0; y <= 3; y++) {
+                taken("sized(" + x + ", " + y + ", 1)");
+            }
         }
-        due("feed(0) as the ninth", m.feed(0), FULL);
-        due("feed(256) as the ninth", m.feed(256), BAD_ARG);
-        due("feed(-1) as the ninth", m.feed(-1), BAD_ARG);
-        m.field(0, 32, 0);
-        m.field(1, 32, 0);
-        m.end();
-        due("bound(0)", m.bound(0), 0xFF000102);
-        due("bound(1)", m.bound(1), 0x03040506);
-    }
-
-    private static void puts() {
-        BitSyntaxMatch m = fed(10, 20, 30);
-        int[][] refused = {{-1, 0}, {3, 0}, {8, 0}, {LEAST, 0}, {GREATEST, 0}, {0, -1}, {0, 256}, {2, LEAST}, {2, GREATEST}};
-        for (int[] r : refused) {
-            due("put(" + r[0] + ", " + r[1] + ")", m.put(r[0], r[1]), BAD_ARG);
+        Calls.sentence("4: or u not 1 to 8, answers BAD_ARG");
+        for (String u : NO_UNIT) {
+            badArgument("sized(3, 3, " + u + ")");
         }
-        m.field(0, 24, 0);
-        m.end();
-        due("bound(0) after refused calls", m.bound(0), 0x0A141E);
-        due("put(0, 255)", m.put(0, 255), 10);
-        due("put(0, 0)", m.put(0, 0), 255);
-        due("put(1, 21)", m.put(1, 21), 20);
-        due("put(2, 31)", m.put(2, 31), 30);
-        due("put(2, 31)", m.put(2, 31), 31);
-        due("bound(0)", m.bound(0), 0x00151F);
-        due("feed(40)", m.feed(40), 4);
-        due("put(3, 41)", m.put(3, 41), 40);
-        m.empty();
-        due("put(0, 0) of the empty buffer", m.put(0, 0), BAD_ARG);
-        feedAll(m, 1, 2, 3, 4, 5, 6, 7, 8);
-        due("put(7, 9)", m.put(7, 9), 8);
-        due("put(8, 9)", m.put(8, 9), BAD_ARG);
-    }
-
-    private static void empties() {
-        BitSyntaxMatch m = fed(1, 2, 3, 4, 5, 6, 7, 8);
-        m.end();
-        m.rest(1);
-        m.end();
-        m.literal(8, 9);
-        due("fitting()", m.fitting(), 2);
-        m.empty();
-        due("fitting() after empty", m.fitting(), 3);
-        due("boundBy(1, 1) after empty", m.boundBy(1, 1), 0);
-        due("rules() after empty", m.rules(), 2);
-        due("segments() after empty", m.segments(), 1);
-        m.empty();
-        due("feed(9) after empty", m.feed(9), 1);
-        due("boundBy(1, 1)", m.boundBy(1, 1), 8);
-        m.end();
-        due("matchFrom(2)", m.matchFrom(2), 2);
-    }
-
-    private static BitSyntaxMatch withRulesOneThreeFour() {
-        BitSyntaxMatch m = fed(7);
-        m.literal(8, 6);
-        m.end();
-        m.literal(8, 7);
-        m.end();
-        m.end();
-        m.field(2, 8, 0);
-        m.end();
-        m.field(1, 1, 0);
-        m.rest(2);
-        m.end();
-        return m;
-    }
-
-    private static void matches() {
-        BitSyntaxMatch m = withRulesOneThreeFour();
-        due("match()", m.match(), 1);
-        due("match() again", m.match(), 1);
-        m.put(0, 6);
-        due("match() on 6", m.match(), 0);
-        m.put(0, 8);
-        due("match() on 8", m.match(), 3);
-        m.feed(8);
-        due("match() on two bytes", m.match(), 4);
-        m.empty();
-        due("match() on no byte", m.match(), 2);
-        m.unend();
-        feedAll(m, 1, 2);
-        due("match() of no rule that fits", m.match(), NONE);
-    }
-
-    private static void matchesFrom() {
-        BitSyntaxMatch m = withRulesOneThreeFour();
-        int[] answers = {1, 1, 3, 3, 4, NONE, NONE, NONE};
-        for (int k = 0; k < answers.length; k++) {
-            due("matchFrom(" + k + ")", m.matchFrom(k), answers[k]);
+        for (int u = 1; u <= 8; u++) {
+            taken("sized(3, 3, " + u + ")");
         }
-        due("matchFrom(GREATEST)", m.matchFrom(GREATEST), NONE);
-        due("matchFrom(-1)", m.matchFrom(-1), BAD_ARG);
-        due("matchFrom(LEAST)", m.matchFrom(LEAST), BAD_ARG);
-        due("matchFrom(-1) of a new object", new BitSyntaxMatch().matchFrom(-1), BAD_ARG);
-        m.unend();
-        due("matchFrom(4) after unend", m.matchFrom(4), NONE);
+        asLiteral("4", "sized(0, 3, 8)");
     }
 
-    private static void bounds() {
-        BitSyntaxMatch m = withRulesOneThreeFour();
-        due("bound(2) by rule 1, which binds nothing", m.bound(2), 0);
-        m.put(0, 200);
-        due("bound(2) by rule 3", m.bound(2), 200);
-        due("bound(1) by rule 3", m.bound(1), 0);
-        m.feed(1);
-        due("bound(1) by rule 4", m.bound(1), 1);
-        due("bound(2) by rule 4", m.bound(2), 15);
-        due("bound(0)", m.bound(0), 0);
-        due("bound(3)", m.bound(3), 0);
-        int[] noVariable = {-1, 4, LEAST, GREATEST};
-        for (int x : noVariable) {
-            due("bound(" + x + ")", m.bound(x), 0);
+    private static void skip() {
+        Calls.sentence("5: Appends skip y u.");
+        Calls.run("field(2, 4, 0); skip(2, 3); rest(0); end() = 0; feed(0x2F); feed(0x80); match() = 0; bound(0) = 6; bound(2) = 2");
+        Calls.sentence("5: y not 0 to 3 answers BAD_ARG");
+        for (String y : NO_VARIABLE) {
+            badArgument("skip(" + y + ", 1)");
+            badArgument("skip(" + y + ", 8)");
         }
-        m.unend();
-        for (int x = 0; x < 4; x++) {
-            due("bound(" + x + ") if none fits", m.bound(x), 0);
+        for (int y = 0; y <= 3; y++) {
+            taken("skip(" + y + ", 1)");
+        }
+        Calls.sentence("5: or u not 1 to 8 answers BAD_ARG");
+        for (String u : NO_UNIT) {
+            badArgument("skip(0, " + u + ")");
+            badArgument("skip(3, " + u + ")");
+        }
+        for (int u = 1; u <= 8; u++) {
+            taken("skip(3, " + u + ")");
+        }
+        asLiteral("5", "skip(3, 8)");
+    }
+
+    private static void same() {
+        Calls.sentence("6: Appends same x y.");
+        Calls.run("field(0, 4, 0); field(3, 4, 0); same(0, 3); end() = 0; feed(0x77); match() = 0; put(0, 0x78); match() = NONE");
+        Calls.sentence("6: x or y not 0 to 3 answers BAD_ARG");
+        for (String x : NO_VARIABLE) {
+            badArgument("same(" + x + ", 0)");
+            badArgument("same(3, " + x + ")");
+            badArgument("same(" + x + ", " + x + ")");
+        }
+        for (int x = 0; x <= 3; x++) {
+            for (int y = 0; y <= 3; y++) {
+                taken("same(" + x + ", " + y + ")");
+            }
+        }
+        asLiteral("6", "same(0, 3)");
+    }
+
+    private static void rest() {
+        Calls.sentence("7: Appends rest x.");
+        Calls.run("literal(3, 1); rest(2); end() = 0; feed(0x20); feed(1); match() = 0; bound(2) = 13");
+        Calls.sentence("7: x not 0 to 3 answers BAD_ARG");
+        for (String x : NO_VARIABLE) {
+            badArgument("rest(" + x + ")");
+        }
+        for (int x = 0; x <= 3; x++) {
+            taken("rest(" + x + ")");
+        }
+        asLiteral("7", "rest(3)");
+    }
+
+    private static void segments() {
+        Calls.sentence("8: The number of segments of the rule being made.");
+        Calls.run("segments() = 0; literal(1, 1); segments() = 1; field(0, 1, 0); segments() = 2; sized(0, 1, 1); segments() = 3; "
+            + "skip(0, 1); segments() = 4; same(0, 1); segments() = 5; rest(0); segments() = 6; rest(0); segments() = 6; "
+            + "end(); segments() = 0; unend(); segments() = 0");
+        Calls.run("5 x rest(0); end(); segments() = 0; rest(0); segments() = 1; unend(); segments() = 1; rest(4); segments() = 1; "
+            + "feed(1); segments() = 1; empty(); segments() = 1; match(); segments() = 1; scrap(); segments() = 0");
+    }
+
+    private static void scrap() {
+        Calls.sentence("9: The segments of the rule being made are dropped.");
+        for (int count = 0; count <= 6; count++) {
+            Calls.run(count + " x literal(1, 1); scrap(); segments() = 0; scrap(); segments() = 0; rest(0) = 1; segments() = 1; end(); "
+                + "feed(1); bound(0) = 8");
+        }
+        Calls.run("literal(8, 1); end(); literal(8, 2); rest(0); scrap(); rules() = 1; feed(1) = 1; match() = 0; end() = 1; "
+            + "fitting() = 1; put(0, 2) = 1; fitting() = 0; empty(); fitting() = 2");
+        Calls.run("6 x rest(0); end(); ".repeat(4) + "6 x rest(0); scrap(); 6 x rest(0); segments() = 6; end() = 4; scrap(); rest(0) = FULL; "
+            + "rules() = 5");
+        Calls.run(States.SOME + "scrap(); fitting() = 1; rules() = 3; segments() = 0; feed(1) = 5; put(3, 7) = 200");
+    }
+
+    private static void end() {
+        Calls.sentence("10: Ends the rule being made, which becomes the last rule");
+        Calls.run("literal(8, 1); match() = NONE; feed(1); match() = NONE; end() = 0; match() = 0; rest(0); fitting() = 1; end() = 1; "
+            + "fitting() = 3; matchFrom(1) = 1; boundBy(1, 0) = 8; unend() = 1; fitting() = 1");
+        for (int count = 0; count <= 6; count++) {
+            Calls.run(count + " x literal(1, 1); end() = 0; match() = " + (count == 0 ? "0" : "NONE") + "; feed(255); match() = NONE");
+        }
+        Calls.run("3 x literal(1, 1); end(); literal(8, 255); end(); feed(255); fitting() = 2");
+        Calls.sentence("10: the next one has no segment yet");
+        Calls.run("6 x literal(1, 1); end(); segments() = 0; rest(0) = 1; end() = 1; feed(0); match() = 1; segments() = 0; end() = 2; "
+            + "matchFrom(2) = NONE; empty(); matchFrom(2) = 2");
+        Calls.sentence("10: FULL if there are 6 rules.");
+        Calls.run("5 x end(); end() = 5; end() = FULL; rules() = 6; unend() = 5; end() = 5; end() = FULL");
+        Calls.run("6 x end(); rest(3) = 1; end() = FULL; segments() = 1; fitting() = 63; unend() = 5; segments() = 1; end() = 5; feed(0); "
+            + "fitting() = 32; bound(3) = 8");
+        for (String state : States.NO_RULE_MORE) {
+            Calls.changesNothing(state, "end() = FULL");
+        }
+        Calls.sentence("10: Otherwise its number.");
+        Calls.run("end() = 0; end() = 1; rest(0); end() = 2; end() = 3; 6 x rest(0); end() = 4; end() = 5; unend(); unend(); end() = 4");
+    }
+
+    private static void unend() {
+        Calls.sentence("11: Removes the last rule.");
+        Calls.run("literal(8, 1); end(); rest(0); end(); feed(1); fitting() = 3; unend() = 1; fitting() = 1; matchFrom(1) = NONE; "
+            + "boundBy(1, 0) = 0; rules() = 1; match() = 0; unend() = 0; fitting() = 0; match() = NONE; rules() = 0; put(0, 2) = 1");
+        Calls.run("rest(0); end(); field(2, 4, 0) = 1; unend() = 0; segments() = 1; field(1, 4, 0) = 2; end() = 0; feed(0x56); "
+            + "bound(2) = 5; bound(1) = 6; bound(0) = 0; unend() = 0; segments() = 0");
+        Calls.run("6 x rest(0); end(); ".repeat(5) + "rest(0) = FULL; unend() = 4; 6 x rest(0); segments() = 6; rest(0) = FULL");
+        Calls.sentence("11: NONE if there is none.");
+        Calls.run("unend() = NONE; end() = 0; unend() = 0; unend() = NONE; rules() = 0; end() = 0");
+        Calls.changesNothing(States.NEW, "unend() = NONE");
+        Calls.changesNothing("feed(1); feed(255); field(1, 8, 1); rest(0); ", "unend() = NONE");
+        Calls.changesNothing("feed(1); rest(0); end(); unend(); field(1, 8, 1); ", "unend() = NONE");
+        Calls.sentence("11: Otherwise the number it had.");
+        Calls.run("6 x end(); unend() = 5; unend() = 4; unend() = 3; unend() = 2; unend() = 1; unend() = 0; unend() = NONE");
+    }
+
+    private static void rules() {
+        Calls.sentence("12: The number of rules.");
+        Calls.run("rules() = 0; end(); rules() = 1; end(); rules() = 2; end(); rules() = 3; end(); rules() = 4; end(); rules() = 5; end(); "
+            + "rules() = 6; end(); rules() = 6; unend(); rules() = 5; 5 x unend(); rules() = 0; unend(); rules() = 0");
+        Calls.run("rest(0); rules() = 0; feed(1); rules() = 0; end(); rules() = 1; empty(); scrap(); match(); rules() = 1");
+    }
+
+    private static void feed() {
+        Calls.sentence("13: Appends a byte to the buffer.");
+        Calls.run("field(0, 8, 0); rest(1); end(); feed(9); bound(0) = 9; bound(1) = 0; feed(8); bound(0) = 9; bound(1) = 8; put(1, 0) = 8");
+        Calls.run("field(0, 32, 0); field(1, 32, 0); end(); feed(255); feed(0); feed(1); feed(2); feed(3); feed(4); feed(5); feed(6); "
+            + "feed(7) = FULL; bound(0) = 0xFF000102; bound(1) = 0x03040506");
+        Calls.sentence("13: b not 0 to 255 answers BAD_ARG");
+        for (String b : NO_BYTE) {
+            badArgument("feed(" + b + ")");
+        }
+        for (int b = 0; b <= 255; b++) {
+            Calls.run("feed(" + b + ") = 1; put(0, 1) = " + b + "; 6 x feed(0); feed(" + b + ") = 8; put(7, 1) = " + b);
+        }
+        Calls.sentence("13: 8 bytes answers FULL");
+        Calls.run("7 x feed(1); feed(2) = 8; feed(3) = FULL; feed(3) = FULL; put(7, 0) = 2; put(0, 0) = 1; put(8, 0) = BAD_ARG");
+        for (String state : States.NO_BYTE_MORE) {
+            Calls.changesNothing(state, "feed(0) = FULL");
+            Calls.changesNothing(state, "feed(255) = FULL");
+        }
+        Calls.sentence("13: Otherwise the number of bytes.");
+        Calls.run("feed(0) = 1; feed(0) = 2; feed(0) = 3; feed(0) = 4; feed(0) = 5; feed(0) = 6; feed(0) = 7; feed(0) = 8; empty(); "
+            + "feed(0) = 1");
+    }
+
+    private static void put() {
+        Calls.sentence("14: Byte i becomes b");
+        for (int i = 0; i < 8; i++) {
+            String calls = "8 x feed(255); field(0, 32, 0); field(1, 32, 0); end(); put(" + i + ", 0); ";
+            Calls.run(calls + "bound(0) = " + (i < 4 ? ~(255 << 24 - 8 * i) : -1) + "; bound(1) = " + (i < 4 ? -1 : ~(255 << 56 - 8 * i)));
+        }
+        Calls.sentence("14: BAD_ARG if there is no byte i");
+        String[] noPlace = {"MIN", "-8", "-1", "8", "9", "16", "256", "MAX"};
+        for (String i : noPlace) {
+            badArgument("put(" + i + ", 0)");
+            badArgument("put(" + i + ", 255)");
+        }
+        for (int count = 0; count <= 8; count++) {
+            for (int i = 0; i < 8; i++) {
+                String due = i < count ? "1" : "BAD_ARG";
+                Calls.run(count + " x feed(1); put(" + i + ", 0) = " + due);
+                if (i >= count) {
+                    Calls.changesNothing(count + " x feed(1); ", "put(" + i + ", 0) = " + due);
+                }
+            }
+        }
+        Calls.run("8 x feed(1); empty(); put(0, 0) = BAD_ARG; feed(2); put(1, 0) = BAD_ARG; put(0, 0) = 2");
+        Calls.sentence("14: or b is not 0 to 255");
+        for (String b : NO_BYTE) {
+            badArgument("put(0, " + b + ")");
+            badArgument("put(3, " + b + ")");
+            badArgument("put(8, " + b + ")");
+        }
+        Calls.sentence("14: Otherwise the byte before.");
+        for (int b = 0; b <= 255; b++) {
+            Calls.run("feed(7); feed(" + b + "); put(1, " + (255 - b) + ") = " + b + "; put(1, " + b + ") = " + (255 - b)
+                + "; put(1, " + b + ") = " + b + "; put(0, " + b + ") = 7");
         }
     }
 
-    private static void boundsAreNotKept() {
-        BitSyntaxMatch m = fed(9);
-        m.field(0, 8, 0);
-        m.literal(8, 1);
-        m.end();
-        m.rest(1);
-        m.end();
-        due("bound(0): what a rule that fails has read is gone", m.bound(0), 0);
-        due("bound(1)", m.bound(1), 8);
-        due("matchFrom(1)", m.matchFrom(1), 1);
-        due("boundBy(0, 0)", m.boundBy(0, 0), 0);
-        due("bound(1) after another rule was asked", m.bound(1), 8);
-    }
-
-    private static void boundsBy() {
-        BitSyntaxMatch m = withRulesOneThreeFour();
-        due("boundBy(3, 2)", m.boundBy(3, 2), 7);
-        due("boundBy(3, 1)", m.boundBy(3, 1), 0);
-        due("boundBy(4, 2)", m.boundBy(4, 2), 7);
-        due("boundBy(1, 2)", m.boundBy(1, 2), 0);
-        m.put(0, 0x80);
-        due("boundBy(4, 1)", m.boundBy(4, 1), 1);
-        int[] noRule = {-1, 5, 6, 7, LEAST, GREATEST};
-        for (int k : noRule) {
-            due("boundBy(" + k + ", 2)", m.boundBy(k, 2), 0);
+    private static void empty() {
+        Calls.sentence("15: Empties the buffer.");
+        for (int count = 0; count <= 8; count++) {
+            Calls.run("end(); rest(1); end(); " + count + " x feed(9); empty(); fitting() = 3; boundBy(1, 1) = 0; put(0, 0) = BAD_ARG; "
+                + "empty(); feed(8) = 1; boundBy(1, 1) = 8; put(0, 7) = 8");
         }
-        int[] noVariable = {-1, 4, LEAST, GREATEST};
-        for (int x : noVariable) {
-            due("boundBy(4, " + x + ")", m.boundBy(4, x), 0);
+        Calls.run(States.SOME + "empty(); rules() = 3; segments() = 2; fitting() = 4; end() = 3; feed(1); feed(2); fitting() = 10; boundBy(3, 1) = 513");
+    }
+
+    /** Rule k fits if bit k of the only byte is 1, and binds variable 1 to k + 1 bits less than there are. */
+    private static String sixBitRules(int set) {
+        String calls = "";
+        int bits = 0;
+        for (int k = 0; k < 6; k++) {
+            calls += "field(0, " + k + ", 0); literal(1, 1); rest(1); end(); ";
+            bits |= (set >> k & 1) << 7 - k;
         }
-        m.feed(1);
-        due("boundBy(3, 2) of a rule that leaves bits", m.boundBy(3, 2), 0);
-        m.rest(2);
-        due("boundBy(5, 2) of the rule being made", m.boundBy(5, 2), 0);
-        due("boundBy(6, 2) of no rule", m.boundBy(6, 2), 0);
+        return calls + "feed(" + bits + "); ";
     }
 
-    private static void fittings() {
-        BitSyntaxMatch m = withRulesOneThreeFour();
-        due("fitting()", m.fitting(), 2 + 8 + 16);
-        m.rest(0);
-        due("fitting(): the rule being made is none", m.fitting(), 2 + 8 + 16);
-        m.end();
-        due("fitting()", m.fitting(), 2 + 8 + 16 + 32);
-        m.put(0, 6);
-        due("fitting()", m.fitting(), 1 + 8 + 16 + 32);
-        m.empty();
-        due("fitting() on no byte", m.fitting(), 4 + 32);
-        BitSyntaxMatch all = new BitSyntaxMatch();
-        endRules(all, 6);
-        due("fitting() of six", all.fitting(), 63);
-        all.feed(0);
-        due("fitting() of none", all.fitting(), 0);
+    /** The least rule of the set that is from or greater, as the document's word for it. */
+    private static String least(int set, int from) {
+        for (int k = from; k < 6; k++) {
+            if ((set >> k & 1) == 1) {
+                return "" + k;
+            }
+        }
+        return "NONE";
     }
 
-    private static void allPromises() {
-        promise = 1;
-        newObject();
-        promise = 2;
-        literalArguments();
-        literalMatching();
-        segmentLimits();
-        promise = 3;
-        fieldArguments();
-        fieldMatching();
-        fieldWidths();
-        promise = 4;
-        sizedArguments();
-        sizedMatching();
-        sizedByUnit();
-        sizedByUnbound();
-        wrappedProducts();
-        promise = 5;
-        skipArguments();
-        skipMatching();
-        promise = 6;
-        sameArguments();
-        sameMatching();
-        promise = 7;
-        restArguments();
-        restMatching();
-        promise = 8;
-        segmentCounts();
-        promise = 9;
-        scraps();
-        promise = 10;
-        ends();
-        keptAcrossSixRules();
-        promise = 11;
-        unends();
-        promise = 12;
-        counts();
-        promise = 13;
-        feeds();
-        promise = 14;
-        puts();
-        promise = 15;
-        empties();
-        promise = 16;
-        matches();
-        promise = 17;
-        matchesFrom();
-        promise = 18;
-        bounds();
-        boundsAreNotKept();
-        promise = 19;
-        boundsBy();
-        promise = 20;
-        fittings();
+    private static void match() {
+        Calls.sentence("16: The least number of a rule that fits the buffer");
+        for (int set = 1; set < 64; set++) {
+            Calls.run(sixBitRules(set) + "match() = " + least(set, 0) + "; match() = " + least(set, 0));
+        }
+        Calls.run("feed(1); rest(0); match() = NONE; end(); match() = 0");
+        Calls.sentence("16: NONE if none fits.");
+        Calls.run("match() = NONE; feed(1); match() = NONE; end(); match() = NONE; rest(0); match() = NONE");
+        Calls.run(sixBitRules(0) + "match() = NONE; empty(); match() = NONE");
+        Calls.changesNothing(States.NEW, "match() = NONE");
+        Calls.changesNothing(sixBitRules(0) + "literal(8, 1); ", "match() = NONE");
+    }
+
+    private static void matchFrom() {
+        Calls.sentence("17: The least number k or greater of a rule that fits the buffer");
+        for (int set = 0; set < 64; set++) {
+            String calls = sixBitRules(set);
+            for (int k = 0; k <= 6; k++) {
+                calls += "matchFrom(" + k + ") = " + least(set, k) + "; ";
+            }
+            Calls.run(calls);
+        }
+        Calls.sentence("17: NONE if there is none");
+        Calls.run("matchFrom(0) = NONE; matchFrom(MAX) = NONE; end(); matchFrom(0) = 0; matchFrom(1) = NONE; rest(0); matchFrom(1) = NONE");
+        Calls.run("6 x end(); matchFrom(5) = 5; matchFrom(6) = NONE; matchFrom(7) = NONE; matchFrom(MAX) = NONE; unend(); matchFrom(5) = NONE");
+        Calls.run(States.SIX_RULES + "matchFrom(6) = NONE; empty(); matchFrom(6) = NONE");
+        for (String state : States.ALL) {
+            Calls.changesNothing(state, "matchFrom(6) = NONE");
+            Calls.changesNothing(state, "matchFrom(7) = NONE");
+            Calls.changesNothing(state, "matchFrom(MAX) = NONE");
+        }
+        Calls.sentence("17: BAD_ARG if k < 0.");
+        badArgument("matchFrom(-1)");
+        badArgument("matchFrom(-2)");
+        badArgument("matchFrom(-6)");
+        badArgument("matchFrom(MIN)");
+        Calls.run("end(); matchFrom(-1) = BAD_ARG; matchFrom(0) = 0");
+    }
+
+    private static void bound() {
+        Calls.sentence("18: The value of variable x after the rule match() has been matched");
+        for (int set = 1; set < 64; set++) {
+            int k = Integer.parseInt(least(set, 0));
+            Calls.run(sixBitRules(set) + "bound(1) = " + (7 - k) + "; bound(0) = 0; bound(2) = 0; bound(3) = 0; bound(1) = " + (7 - k));
+        }
+        Calls.run("field(0, 8, 0); literal(8, 1); end(); rest(1); end(); feed(9); bound(0) = 0; bound(1) = 8; boundBy(0, 0) = 0; "
+            + "bound(1) = 8; feed(1); bound(0) = 9; bound(1) = 0; boundBy(1, 1) = 16; bound(1) = 0; bound(0) = 9");
+        Calls.run("rest(0); rest(1); end(); field(0, 32, 0); end(); feed(1); feed(2); feed(3); feed(4); bound(0) = 32; bound(1) = 0");
+        Calls.sentence("18: 0 if none fits");
+        Calls.run("bound(0) = 0; bound(1) = 0; bound(2) = 0; bound(3) = 0");
+        Calls.run("field(0, 8, 0); field(1, 8, 0); field(2, 8, 0); field(3, 8, 0); literal(1, 1); end(); feed(9); feed(9); feed(9); "
+            + "feed(9); bound(0) = 0; bound(1) = 0; bound(2) = 0; bound(3) = 0");
+        Calls.run("field(0, 8, 0); end(); feed(9); bound(0) = 9; feed(9); bound(0) = 0; empty(); bound(0) = 0; feed(9); bound(0) = 9; unend(); "
+            + "bound(0) = 0");
+        Calls.sentence("18: 0 if x is not 0 to 3");
+        for (String x : NO_VARIABLE) {
+            Calls.run("4 x feed(9); field(0, 8, 0); field(1, 8, 0); field(2, 8, 0); field(3, 8, 0); end(); bound(" + x + ") = 0; bound(0) = 9; "
+                + "bound(3) = 9");
+            for (String state : States.ALL) {
+                Calls.changesNothing(state, "bound(" + x + ") = 0");
+            }
+        }
+    }
+
+    private static void boundBy() {
+        Calls.sentence("19: The value of variable x after rule k has been matched, if it fits");
+        for (int set = 0; set < 64; set++) {
+            String calls = sixBitRules(set);
+            for (int k = 5; k >= 0; k--) {
+                calls += "boundBy(" + k + ", 1) = " + ((set >> k & 1) == 1 ? 7 - k : 0) + "; boundBy(" + k + ", 2) = 0; ";
+            }
+            Calls.run(calls);
+        }
+        Calls.run("field(0, 8, 0); field(1, 8, 0); end(); field(1, 8, 0); field(2, 8, 0); end(); feed(9); feed(8); boundBy(0, 0) = 9; "
+            + "boundBy(1, 0) = 0; boundBy(0, 1) = 8; boundBy(1, 1) = 9; boundBy(0, 2) = 0; boundBy(1, 2) = 8; boundBy(0, 3) = 0");
+        Calls.sentence("19: else 0");
+        Calls.run("field(0, 8, 0); end(); field(0, 8, 0); literal(1, 1); end(); field(0, 8, 0); same(0, 1); end(); feed(9); "
+            + "boundBy(0, 0) = 9; boundBy(1, 0) = 0; boundBy(2, 0) = 0; feed(9); boundBy(0, 0) = 0; empty(); boundBy(0, 0) = 0");
+        Calls.sentence("19: (also if there is no rule k");
+        String[] noRule = {"MIN", "-6", "-1", "6", "7", "8", "42", "MAX"};
+        for (String k : noRule) {
+            for (String state : States.ALL) {
+                Calls.changesNothing(state, "boundBy(" + k + ", 0) = 0");
+                Calls.changesNothing(state, "boundBy(" + k + ", 2) = 0");
+            }
+        }
+        Calls.run("feed(1); rest(0); boundBy(0, 0) = 0; end(); boundBy(0, 0) = 8; rest(0); boundBy(1, 0) = 0; boundBy(6, 0) = 0; "
+            + "end(); boundBy(1, 0) = 8; unend(); boundBy(1, 0) = 0; boundBy(0, 0) = 8");
+        Calls.run("feed(1); 5 x end(); rest(0); end(); boundBy(5, 0) = 8; rest(0); boundBy(6, 0) = 0");
+        Calls.sentence("19: or x is not 0 to 3)");
+        for (String x : NO_VARIABLE) {
+            Calls.run("4 x feed(9); field(0, 8, 0); field(1, 8, 0); field(2, 8, 0); field(3, 8, 0); end(); boundBy(0, " + x
+                + ") = 0; boundBy(0, 0) = 9; boundBy(0, 3) = 9; boundBy(-1, " + x + ") = 0; boundBy(6, " + x + ") = 0");
+            for (String state : States.ALL) {
+                Calls.changesNothing(state, "boundBy(0, " + x + ") = 0");
+            }
+        }
+    }
+
+    private static void fitting() {
+        Calls.sentence("20: The set of the rules that fit, as the sum of 2 to the power k.");
+        for (int set = 0; set < 64; set++) {
+            Calls.run(sixBitRules(set) + "fitting() = " + set + "; fitting() = " + set + "; unend(); fitting() = " + (set & 31)
+                + "; rest(0); fitting() = " + (set & 31) + "; end(); fitting() = " + (set & 31 | 32));
+        }
+        Calls.run("fitting() = 0; rest(0); fitting() = 0; end(); fitting() = 1; end(); fitting() = 3; feed(0); fitting() = 1");
+    }
+
+    /** A call that the document refuses, one or more for each method that can refuse. */
+    private static void refusedCalls() {
+        Calls.sentence("A refused call answers the code named and changes nothing.");
+        String[] badArguments = {"literal(17, 0)", "literal(3, 8)", "field(4, 8, 0)", "field(0, 33, 0)", "field(0, 8, 4)",
+            "field(0, 12, 2)", "sized(4, 0, 1)", "sized(0, 4, 1)", "sized(0, 0, 9)", "skip(4, 1)", "skip(0, 0)", "same(4, 0)",
+            "same(0, 4)", "rest(4)", "feed(256)", "put(8, 0)", "put(0, 256)", "matchFrom(-1)"};
+        for (String first : badArguments) {
+            for (String second : badArguments) {
+                Calls.changesNothing(States.SOME, first + " = BAD_ARG; " + second + " = BAD_ARG");
+            }
+        }
+        String[] appends = {"literal(8, 1)", "field(1, 8, 1)", "sized(2, 2, 2)", "skip(1, 1)", "same(1, 2)", "rest(3)"};
+        for (String state : States.NO_SEGMENT_MORE) {
+            for (String first : appends) {
+                for (String second : appends) {
+                    Calls.changesNothing(state, first + " = FULL; " + second + " = FULL");
+                }
+            }
+        }
+        Calls.changesNothing(States.SIX_RULES, "end() = FULL; feed(7) = FULL; end() = FULL; feed(8) = FULL");
+        Calls.changesNothing(States.THIRTY_IN_SIX, "end() = FULL; rest(0) = FULL; feed(7) = FULL; end() = FULL");
+        Calls.changesNothing("feed(1); rest(0); ", "unend() = NONE; match() = NONE; matchFrom(0) = NONE; unend() = NONE");
+    }
+
+    private static void askingCalls() {
+        Calls.sentence("Nothing is promised beyond the answers and state changes described above");
+        String[] asks = {"segments()", "rules()", "match()", "matchFrom(0)", "matchFrom(1)", "bound(0)", "bound(3)", "boundBy(0, 2)",
+            "boundBy(1, 2)", "boundBy(5, 0)", "fitting()"};
+        for (String state : States.ALL) {
+            for (String ask : asks) {
+                Calls.changesNothing(state, ask);
+            }
+        }
     }
 
     public static void main(String[] args) {
-        allPromises();
-        System.out.println(wrong == 0 ? "all promises are kept" : wrong + " answers are not as due");
-        if (wrong != 0) {
-            System.exit(1);
-        }
+        newObject();
+        literal();
+        field();
+        sized();
+        skip();
+        same();
+        rest();
+        segments();
+        scrap();
+        end();
+        unend();
+        rules();
+        feed();
+        put();
+        empty();
+        match();
+        matchFrom();
+        bound();
+        boundBy();
+        fitting();
+        refusedCalls();
+        askingCalls();
+        Calls.finish();
     }
 }

@@ -1,0 +1,237 @@
+import java.lang.reflect.InvocationTargetException;
+import java.lang.reflect.Method;
+import java.util.ArrayList;
+import java.util.Arrays;
+import java.util.List;
+import java.util.regex.Matcher;
+import java.util.regex.Pattern;
+
+/**
+ * Tests written as texts of calls on a new object, such as "feed(256) = BAD_ARG; 2 x feed(0); rules() = 0": a number and
+ * an x before a call repeat it, and what stands behind "=" is the answer that is due; without it any answer will do.
+ */
+final class Calls {
+    private static final Pattern CALL = Pattern.compile("(?:(\\d+) x )?(\\w+)\\(([^()]*)\\)(?: = (\\S+))?");
+    /** What the document says of an object holds for so many calls. */
+    private static final int MOST_CALLS = 512;
+    private static final int MOST_PRINTED = 40;
+    private static final List<List<Call>> PROBES = probes();
+
+    private static String sentence = "";
+    private static int sentences = 0;
+    private static int compared = 0;
+    private static int wrong = 0;
+
+    private record Call(Method method, Object[] arguments, Integer due) {
+        private String text() {
+            String list = Arrays.toString(arguments);
+            return method.getName() + "(" + list.substring(1, list.length() - 1) + ")";
+        }
+    }
+
+    private Calls() {
+    }
+
+    /** The tests that follow are those of this sentence of the document. */
+    static void sentence(String words) {
+        closeSentence();
+        sentence = words;
+        sentences++;
+        compared = 0;
+    }
+
+    private static void closeSentence() {
+        if (sentences > 0 && compared == 0) {
+            report("no answer was compared");
+        }
+    }
+
+    static void finish() {
+        closeSentence();
+        System.out.println(sentences + " sentences, " + (wrong == 0 ? "all answers are as due" : wrong + " faults"));
+        if (wrong != 0) {
+            System.exit(1);
+        }
+    }
+
+    /** Runs the calls on a new object and compares every answer that is due. */
+    static void run(String text) {
+        List<Call> calls = parse(text);
+        int[] answers = answers(calls);
+        for (int n = 0; n < answers.length; n++) {
+            compare(calls, n, answers[n]);
+        }
+    }
+
+    /** The call answers what is due behind the calls before it, and the object then answers as if it had not been called. */
+    static void changesNothing(String before, String call) {
+        run(before + "; " + call);
+        List<Call> without = parse(before);
+        List<Call> with = parse(before + "; " + call);
+        for (List<Call> probe : PROBES) {
+            int[] due = answersBehind(without, probe);
+            int[] got = answersBehind(with, probe);
+            int n = Arrays.mismatch(due, got);
+            compared++;
+            if (n >= 0) {
+                report(call + " after " + before + " has changed something: " + probe.get(n).text() + " answers " + got[n]
+                    + ", without it " + due[n]);
+                return;
+            }
+        }
+    }
+
+    /** The calls that feed these bits, 8 to the byte. */
+    static String feedBits(String bits) {
+        StringBuilder calls = new StringBuilder();
+        for (int n = 0; n < bits.length(); n += 8) {
+            calls.append("feed(").append(Integer.parseInt(bits.substring(n, n + 8), 2)).append("); ");
+        }
+        return calls.toString();
+    }
+
+    /** The calls that append two segments, which use up this many bits, 64 at most, and leave variable 3 changed. */
+    static String passBits(int count) {
+        int head = Math.min(count, 32);
+        return "field(3, " + head + ", 0); field(3, " + (count - head) + ", 0); ";
+    }
+
+    /** The calls for a full buffer that ends with these bits, and for a rule being made that has come to them. */
+    static String leaving(String bits) {
+        int passed = 64 - bits.length();
+        return feedBits("0".repeat(passed) + bits) + passBits(passed);
+    }
+
+    private static void report(String what) {
+        wrong++;
+        if (wrong <= MOST_PRINTED) {
+            System.out.println("\"" + sentence + "\": " + what);
+        }
+    }
+
+    private static void compare(List<Call> calls, int n, int answer) {
+        Call call = calls.get(n);
+        if (call.due() == null) {
+            return;
+        }
+        compared++;
+        if (answer != call.due()) {
+            StringBuilder before = new StringBuilder();
+            for (Call earlier : calls.subList(0, n)) {
+                before.append(earlier.text()).append("; ");
+            }
+            report("after " + before + call.text() + " answered " + answer + ", due is " + call.due());
+        }
+    }
+
+    private static List<Call> parse(String text) {
+        List<Call> calls = new ArrayList<>();
+        for (String part : text.split(";")) {
+            if (!part.isBlank()) {
+                addCalls(calls, part.strip());
+            }
+        }
+        return calls;
+    }
+
+    private static void addCalls(List<Call> calls, String part) {
+        Matcher found = CALL.matcher(part);
+        if (!found.matches()) {
+            throw new IllegalArgumentException("no call: " + part);
+        }
+        String list = found.group(3).strip();
+        String[] words = list.isEmpty() ? new String[0] : list.split(",");
+        Object[] arguments = new Object[words.length];
+        for (int n = 0; n < words.length; n++) {
+            arguments[n] = number(words[n].strip());
+        }
+        Integer due = found.group(4) == null ? null : number(found.group(4));
+        Call call = new Call(method(found.group(2), words.length), arguments, due);
+        int times = found.group(1) == null ? 1 : Integer.parseInt(found.group(1));
+        for (int n = 0; n < times; n++) {
+            calls.add(call);
+        }
+    }
+
+    private static int number(String word) {
+        switch (word) {
+            case "BAD_ARG":
+                return -1;
+            case "FULL":
+                return -2;
+            case "NONE":
+                return -4;
+            case "MIN":
+                return Integer.MIN_VALUE;
+            case "MAX":
+                return Integer.MAX_VALUE;
+            default:
+                return (int) (long) Long.decode(word);
+        }
+    }
+
+    private static Method method(String name, int parameters) {
+        for (Method method : BitSyntaxMatch.class.getMethods()) {
+            if (method.getName().equals(name) && method.getParameterCount() == parameters) {
+                return method;
+            }
+        }
+        throw new IllegalArgumentException("no method " + name + " with " + parameters + " parameters");
+    }
+
+    private static int[] answers(List<Call> calls) {
+        if (calls.size() > MOST_CALLS) {
+            throw new IllegalArgumentException("more than " + MOST_CALLS + " calls");
+        }
+        BitSyntaxMatch made = new BitSyntaxMatch();
+        int[] answers = new int[calls.size()];
+        for (int n = 0; n < answers.length; n++) {
+            answers[n] = answer(made, calls.get(n));
+        }
+        return answers;
+    }
+
+    private static int answer(BitSyntaxMatch made, Call call) {
+        try {
+            Object answer = call.method().invoke(made, call.arguments());
+            return answer == null ? 0 : (Integer) answer;
+        } catch (InvocationTargetException e) {
+            report(call.text() + " threw " + e.getCause());
+            return 0;
+        } catch (IllegalAccessException e) {
+            throw new IllegalStateException(e);
+        }
+    }
+
+    private static int[] answersBehind(List<Call> before, List<Call> probe) {
+        List<Call> all = new ArrayList<>(before);
+        all.addAll(probe);
+        int[] answers = answers(all);
+        return Arrays.copyOfRange(answers, before.size(), answers.length);
+    }
+
+    private static List<List<Call>> probes() {
+        String boundByAll = "";
+        for (int k = 0; k < 6; k++) {
+            for (int x = 0; x < 4; x++) {
+                boundByAll += "boundBy(" + k + ", " + x + "); ";
+            }
+        }
+        String[] buffers = {"", "feed(1); ", "feed(255); ", "feed(16); feed(1); ", "feed(0xA2); feed(1); feed(2); feed(200); ",
+            "feed(0xA1); feed(7); feed(0); feed(0); feed(9); feed(8); feed(0); feed(1); "};
+        String rulesOnBuffers = "";
+        String madeRuleOnBuffers = "6 x unend(); segments(); end(); ";
+        for (String buffer : buffers) {
+            rulesOnBuffers += "empty(); " + buffer + "fitting(); " + boundByAll;
+            madeRuleOnBuffers += "empty(); " + buffer + "match(); bound(0); bound(1); bound(2); bound(3); ";
+        }
+        String bytes = "put(0, 0); put(1, 0); put(2, 0); put(3, 0); put(4, 0); put(5, 0); put(6, 0); put(7, 0); put(8, 0); ";
+        return List.of(
+            parse("segments(); rules(); fitting(); match(); bound(0); bound(1); bound(2); bound(3); " + boundByAll),
+            parse(bytes + "9 x feed(0)"),
+            parse(rulesOnBuffers),
+            parse(madeRuleOnBuffers),
+            parse("7 x literal(0, 0); " + "unend(); scrap(); 7 x literal(0, 0); ".repeat(6)),
+            parse("scrap(); 7 x literal(0, 0); 7 x end()"));
+    }
+}
