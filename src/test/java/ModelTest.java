@@ -233,7 +233,8 @@ public final class ModelTest {
         if (got != want) {
             wrong++;
             if (wrong <= 20) {
-                System.out.println("run " + run + ", call " + call + ": " + what + " answered " + got + ", due is " + want);
+                System.out.println("run " + run + ", call " + call + ": " + what + " answered " + got + ", due is "
+                    + want);
             }
         }
     }

@@ -1,4 +1,4 @@
-/** The sentences of Promise 1 to Promise 20, each with tests of its own: what is answered, and what is refused and when. */
+/** The sentences of Promise 1 to Promise 20, each with tests of its own: both sides of every boundary it names. */
 public final class PromisesTest {
     private static final String[] NO_VARIABLE = {"MIN", "-2147483647", "-4", "-1", "4", "5", "8", "256", "MAX"};
     private static final String[] NO_UNIT = {"MIN", "-8", "-1", "0", "9", "16", "257", "MAX"};
@@ -18,8 +18,8 @@ public final class PromisesTest {
     }
 
     private static void sixSegments(String call) {
-        Calls.run(call + " = 1; " + call + " = 2; " + call + " = 3; " + call + " = 4; " + call + " = 5; " + call + " = 6; "
-            + call + " = FULL; segments() = 6; scrap(); " + call + " = 1");
+        Calls.run(call + " = 1; " + call + " = 2; " + call + " = 3; " + call + " = 4; " + call + " = 5; " + call
+            + " = 6; " + call + " = FULL; segments() = 6; scrap(); " + call + " = 1");
         Calls.run("5 x rest(0); " + call + " = 6; " + call + " = FULL; segments() = 6; end(); " + call + " = 1");
         Calls.changesNothing(States.SIX_IN_ONE, call + " = FULL");
     }
@@ -29,8 +29,8 @@ public final class PromisesTest {
         Calls.run(fourRules + "5 x rest(0); " + call + " = 6; " + call + " = FULL; segments() = 6");
         Calls.run(fourRules + "5 x rest(0); end(); " + call + " = 1; " + call + " = FULL; segments() = 1");
         Calls.run(fourRules + "6 x rest(0); end(); " + call + " = FULL; segments() = 0; unend(); " + call + " = 1");
-        Calls.run("5 x rest(0); end(); ".repeat(5) + "4 x rest(0); " + call + " = 5; " + call + " = FULL; segments() = 5; "
-            + "scrap(); " + call + " = 1");
+        Calls.run("5 x rest(0); end(); ".repeat(5) + "4 x rest(0); " + call + " = 5; " + call + " = FULL; "
+            + "segments() = 5; scrap(); " + call + " = 1");
         for (String state : States.NO_SEGMENT_MORE) {
             Calls.changesNothing(state, call + " = FULL");
         }
@@ -42,7 +42,8 @@ public final class PromisesTest {
         Calls.sentence(promise + ": then as literal: all rules and the one being made have 30 together answers FULL");
         thirtySegments(call);
         Calls.sentence(promise + ": then as literal: otherwise the number of its segments afterwards");
-        Calls.run("same(0, 0); " + call + " = 2; end(); " + call + " = 1; skip(0, 1); " + call + " = 3; segments() = 3");
+        Calls.run("same(0, 0); " + call + " = 2; end(); " + call + " = 1; skip(0, 1); " + call + " = 3; "
+            + "segments() = 3");
     }
 
     private static void newObject() {
@@ -60,8 +61,8 @@ public final class PromisesTest {
 
     private static void literal() {
         Calls.sentence("2: Appends literal w v to the rule being made.");
-        Calls.run("literal(4, 10) = 1; literal(8, 0x53) = 2; literal(4, 12) = 3; end() = 0; feed(0xA5); feed(0x3C); match() = 0; "
-            + "put(1, 0x3D); match() = NONE");
+        Calls.run("literal(4, 10) = 1; literal(8, 0x53) = 2; literal(4, 12) = 3; end() = 0; feed(0xA5); feed(0x3C); "
+            + "match() = 0; put(1, 0x3D); match() = NONE");
         Calls.run("end(); literal(8, 5) = 1; match() = 0; feed(5); match() = NONE; end() = 1; match() = 1");
         Calls.sentence("2: w not 0 to 16 answers BAD_ARG");
         String[] noWidth = {"MIN", "-32", "-16", "-1", "17", "18", "31", "32", "33", "48", "64", "MAX"};
@@ -88,13 +89,15 @@ public final class PromisesTest {
         Calls.sentence("2: or all rules and the one being made have 30 together, answers FULL");
         thirtySegments("literal(8, 255)");
         Calls.sentence("2: Otherwise the number of its segments afterwards.");
-        Calls.run("rest(0); literal(0, 0) = 2; end(); literal(16, 65535) = 1; rest(0); rest(0); literal(1, 1) = 4; segments() = 4");
+        Calls.run("rest(0); literal(0, 0) = 2; end(); literal(16, 65535) = 1; rest(0); rest(0); literal(1, 1) = 4; "
+            + "segments() = 4");
     }
 
     private static void field() {
         Calls.sentence("3: Appends field x w s e, with flags = s + 2 e.");
-        Calls.run("field(0, 16, 0); end(); field(0, 16, 1); end(); field(0, 16, 2); end(); field(0, 16, 3); end(); feed(0x82); "
-            + "feed(0x81); boundBy(0, 0) = 0x8281; boundBy(1, 0) = -32127; boundBy(2, 0) = 0x8182; boundBy(3, 0) = -32382");
+        Calls.run("field(0, 16, 0); end(); field(0, 16, 1); end(); field(0, 16, 2); end(); field(0, 16, 3); end(); "
+            + "feed(0x82); feed(0x81); boundBy(0, 0) = 0x8281; boundBy(1, 0) = -32127; boundBy(2, 0) = 0x8182; "
+            + "boundBy(3, 0) = -32382");
         Calls.sentence("3: x not 0 to 3 answers BAD_ARG");
         for (String x : NO_VARIABLE) {
             badArgument("field(" + x + ", 8, 0)");
@@ -139,7 +142,8 @@ public final class PromisesTest {
 
     private static void sized() {
         Calls.sentence("4: Appends sized x y u.");
-        Calls.run("field(2, 4, 0); sized(1, 2, 3); rest(0); end() = 0; feed(0x2F); feed(0x80); match() = 0; bound(1) = 62; bound(0) = 6");
+        Calls.run("field(2, 4, 0); sized(1, 2, 3); rest(0); end() = 0; feed(0x2F); feed(0x80); match() = 0; "
+            + "bound(1) = 62; bound(0) = 6");
         Calls.sentence("4: x or y not 0 to 3 answers BAD_ARG");
         for (String x : NO_VARIABLE) {
             badArgument("sized(" + x + ", 0, 1)");
@@ -163,7 +167,8 @@ public final class PromisesTest {
 
     private static void skip() {
         Calls.sentence("5: Appends skip y u.");
-        Calls.run("field(2, 4, 0); skip(2, 3); rest(0); end() = 0; feed(0x2F); feed(0x80); match() = 0; bound(0) = 6; bound(2) = 2");
+        Calls.run("field(2, 4, 0); skip(2, 3); rest(0); end() = 0; feed(0x2F); feed(0x80); match() = 0; bound(0) = 6; "
+            + "bound(2) = 2");
         Calls.sentence("5: y not 0 to 3 answers BAD_ARG");
         for (String y : NO_VARIABLE) {
             badArgument("skip(" + y + ", 1)");
@@ -185,7 +190,8 @@ public final class PromisesTest {
 
     private static void same() {
         Calls.sentence("6: Appends same x y.");
-        Calls.run("field(0, 4, 0); field(3, 4, 0); same(0, 3); end() = 0; feed(0x77); match() = 0; put(0, 0x78); match() = NONE");
+        Calls.run("field(0, 4, 0); field(3, 4, 0); same(0, 3); end() = 0; feed(0x77); match() = 0; put(0, 0x78); "
+            + "match() = NONE");
         Calls.sentence("6: x or y not 0 to 3 answers BAD_ARG");
         for (String x : NO_VARIABLE) {
             badArgument("same(" + x + ", 0)");
@@ -215,76 +221,101 @@ public final class PromisesTest {
 
     private static void segments() {
         Calls.sentence("8: The number of segments of the rule being made.");
-        Calls.run("segments() = 0; literal(1, 1); segments() = 1; field(0, 1, 0); segments() = 2; sized(0, 1, 1); segments() = 3; "
-            + "skip(0, 1); segments() = 4; same(0, 1); segments() = 5; rest(0); segments() = 6; rest(0); segments() = 6; "
-            + "end(); segments() = 0; unend(); segments() = 0");
-        Calls.run("5 x rest(0); end(); segments() = 0; rest(0); segments() = 1; unend(); segments() = 1; rest(4); segments() = 1; "
-            + "feed(1); segments() = 1; empty(); segments() = 1; match(); segments() = 1; scrap(); segments() = 0");
+        Calls.run("segments() = 0; literal(1, 1); segments() = 1; field(0, 1, 0); segments() = 2; sized(0, 1, 1); "
+            + "segments() = 3; skip(0, 1); segments() = 4; same(0, 1); segments() = 5; rest(0); segments() = 6; "
+            + "rest(0); segments() = 6; end(); segments() = 0; unend(); segments() = 0");
+        Calls.run("5 x rest(0); end(); segments() = 0; rest(0); segments() = 1; unend(); segments() = 1; rest(4); "
+            + "segments() = 1; feed(1); segments() = 1; empty(); segments() = 1; match(); segments() = 1; scrap(); "
+            + "segments() = 0");
     }
 
     private static void scrap() {
         Calls.sentence("9: The segments of the rule being made are dropped.");
         for (int count = 0; count <= 6; count++) {
-            Calls.run(count + " x literal(1, 1); scrap(); segments() = 0; scrap(); segments() = 0; rest(0) = 1; segments() = 1; end(); "
-                + "feed(1); bound(0) = 8");
+            Calls.run(count + " x literal(1, 1); scrap(); segments() = 0; scrap(); segments() = 0; rest(0) = 1; "
+                + "segments() = 1; end(); feed(1); bound(0) = 8");
         }
-        Calls.run("literal(8, 1); end(); literal(8, 2); rest(0); scrap(); rules() = 1; feed(1) = 1; match() = 0; end() = 1; "
-            + "fitting() = 1; put(0, 2) = 1; fitting() = 0; empty(); fitting() = 2");
-        Calls.run("6 x rest(0); end(); ".repeat(4) + "6 x rest(0); scrap(); 6 x rest(0); segments() = 6; end() = 4; scrap(); rest(0) = FULL; "
-            + "rules() = 5");
-        Calls.run(States.SOME + "scrap(); fitting() = 1; rules() = 3; segments() = 0; feed(1) = 5; put(3, 7) = 200");
+        Calls.run("literal(8, 1); end(); literal(8, 2); rest(0); scrap(); rules() = 1; feed(1) = 1; match() = 0; "
+            + "end() = 1; fitting() = 1; put(0, 2) = 1; fitting() = 0; empty(); fitting() = 2");
+        Calls.run("6 x rest(0); end(); ".repeat(4) + "6 x rest(0); scrap(); 6 x rest(0); segments() = 6; end() = 4; "
+            + "scrap(); rest(0) = FULL; rules() = 5");
+        for (String state : States.NONE_MADE) {
+            Calls.changesNothing(state, "scrap()");
+        }
+        for (int count = 0; count <= 6; count++) {
+            String rules = "8 x feed(9); " + count + " x end(); ";
+            Calls.changesNothing(rules, "literal(8, 1); scrap()");
+            Calls.changesNothing(rules, "field(3, 8, 1); 5 x rest(2); scrap()");
+        }
     }
 
     private static void end() {
         Calls.sentence("10: Ends the rule being made, which becomes the last rule");
-        Calls.run("literal(8, 1); match() = NONE; feed(1); match() = NONE; end() = 0; match() = 0; rest(0); fitting() = 1; end() = 1; "
-            + "fitting() = 3; matchFrom(1) = 1; boundBy(1, 0) = 8; unend() = 1; fitting() = 1");
+        Calls.run("literal(8, 1); match() = NONE; feed(1); match() = NONE; end() = 0; match() = 0; rest(0); "
+            + "fitting() = 1; end() = 1; fitting() = 3; matchFrom(1) = 1; boundBy(1, 0) = 8; unend() = 1; "
+            + "fitting() = 1");
         for (int count = 0; count <= 6; count++) {
-            Calls.run(count + " x literal(1, 1); end() = 0; match() = " + (count == 0 ? "0" : "NONE") + "; feed(255); match() = NONE");
+            Calls.run(count + " x literal(1, 1); end() = 0; match() = " + (count == 0 ? "0" : "NONE") + "; feed(255); "
+                + "match() = NONE");
         }
         Calls.run("3 x literal(1, 1); end(); literal(8, 255); end(); feed(255); fitting() = 2");
         Calls.sentence("10: the next one has no segment yet");
-        Calls.run("6 x literal(1, 1); end(); segments() = 0; rest(0) = 1; end() = 1; feed(0); match() = 1; segments() = 0; end() = 2; "
-            + "matchFrom(2) = NONE; empty(); matchFrom(2) = 2");
+        Calls.run("6 x literal(1, 1); end(); segments() = 0; rest(0) = 1; end() = 1; feed(0); match() = 1; "
+            + "segments() = 0; end() = 2; matchFrom(2) = NONE; empty(); matchFrom(2) = 2");
         Calls.sentence("10: FULL if there are 6 rules.");
         Calls.run("5 x end(); end() = 5; end() = FULL; rules() = 6; unend() = 5; end() = 5; end() = FULL");
-        Calls.run("6 x end(); rest(3) = 1; end() = FULL; segments() = 1; fitting() = 63; unend() = 5; segments() = 1; end() = 5; feed(0); "
-            + "fitting() = 32; bound(3) = 8");
+        Calls.run("6 x end(); rest(3) = 1; end() = FULL; segments() = 1; fitting() = 63; unend() = 5; segments() = 1; "
+            + "end() = 5; feed(0); fitting() = 32; bound(3) = 8");
         for (String state : States.NO_RULE_MORE) {
             Calls.changesNothing(state, "end() = FULL");
         }
         Calls.sentence("10: Otherwise its number.");
-        Calls.run("end() = 0; end() = 1; rest(0); end() = 2; end() = 3; 6 x rest(0); end() = 4; end() = 5; unend(); unend(); end() = 4");
+        Calls.run("end() = 0; end() = 1; rest(0); end() = 2; end() = 3; 6 x rest(0); end() = 4; end() = 5; unend(); "
+            + "unend(); end() = 4");
     }
 
     private static void unend() {
         Calls.sentence("11: Removes the last rule.");
-        Calls.run("literal(8, 1); end(); rest(0); end(); feed(1); fitting() = 3; unend() = 1; fitting() = 1; matchFrom(1) = NONE; "
-            + "boundBy(1, 0) = 0; rules() = 1; match() = 0; unend() = 0; fitting() = 0; match() = NONE; rules() = 0; put(0, 2) = 1");
-        Calls.run("rest(0); end(); field(2, 4, 0) = 1; unend() = 0; segments() = 1; field(1, 4, 0) = 2; end() = 0; feed(0x56); "
-            + "bound(2) = 5; bound(1) = 6; bound(0) = 0; unend() = 0; segments() = 0");
-        Calls.run("6 x rest(0); end(); ".repeat(5) + "rest(0) = FULL; unend() = 4; 6 x rest(0); segments() = 6; rest(0) = FULL");
+        Calls.run("literal(8, 1); end(); rest(0); end(); feed(1); fitting() = 3; unend() = 1; fitting() = 1; "
+            + "matchFrom(1) = NONE; boundBy(1, 0) = 0; rules() = 1; match() = 0; unend() = 0; fitting() = 0; "
+            + "match() = NONE; rules() = 0; put(0, 2) = 1");
+        Calls.run("rest(0); end(); field(2, 4, 0) = 1; unend() = 0; segments() = 1; field(1, 4, 0) = 2; end() = 0; "
+            + "feed(0x56); bound(2) = 5; bound(1) = 6; bound(0) = 0; unend() = 0; segments() = 0");
+        Calls.run("6 x rest(0); end(); ".repeat(5) + "rest(0) = FULL; unend() = 4; 6 x rest(0); segments() = 6; "
+            + "rest(0) = FULL");
+        String[] lastRules = {"", "literal(8, 1); ", "field(3, 8, 1); skip(3, 1); rest(2); ", "6 x rest(0); "};
+        for (String last : lastRules) {
+            String begin = "8 x feed(9); field(0, 8, 0); rest(1); end(); ";
+            String made = "field(1, 4, 1); field(2, 4, 0); rest(0); ";
+            Calls.alike(begin + last + "end(); " + made + "unend()", begin + made);
+            Calls.alike(begin + last + "end(); unend(); " + made, begin + made);
+            Calls.alike(made + "end(); " + last + "end(); 2 x unend()", States.NEW);
+        }
         Calls.sentence("11: NONE if there is none.");
         Calls.run("unend() = NONE; end() = 0; unend() = 0; unend() = NONE; rules() = 0; end() = 0");
         Calls.changesNothing(States.NEW, "unend() = NONE");
-        Calls.changesNothing("feed(1); feed(255); field(1, 8, 1); rest(0); ", "unend() = NONE");
+        Calls.changesNothing(States.NO_RULE, "unend() = NONE");
         Calls.changesNothing("feed(1); rest(0); end(); unend(); field(1, 8, 1); ", "unend() = NONE");
         Calls.sentence("11: Otherwise the number it had.");
-        Calls.run("6 x end(); unend() = 5; unend() = 4; unend() = 3; unend() = 2; unend() = 1; unend() = 0; unend() = NONE");
+        Calls.run("6 x end(); unend() = 5; unend() = 4; unend() = 3; unend() = 2; unend() = 1; unend() = 0; "
+            + "unend() = NONE");
     }
 
     private static void rules() {
         Calls.sentence("12: The number of rules.");
-        Calls.run("rules() = 0; end(); rules() = 1; end(); rules() = 2; end(); rules() = 3; end(); rules() = 4; end(); rules() = 5; end(); "
-            + "rules() = 6; end(); rules() = 6; unend(); rules() = 5; 5 x unend(); rules() = 0; unend(); rules() = 0");
-        Calls.run("rest(0); rules() = 0; feed(1); rules() = 0; end(); rules() = 1; empty(); scrap(); match(); rules() = 1");
+        Calls.run("rules() = 0; end(); rules() = 1; end(); rules() = 2; end(); rules() = 3; end(); rules() = 4; "
+            + "end(); rules() = 5; end(); rules() = 6; end(); rules() = 6; unend(); rules() = 5; 5 x unend(); "
+            + "rules() = 0; unend(); rules() = 0");
+        Calls.run("rest(0); rules() = 0; feed(1); rules() = 0; end(); rules() = 1; empty(); scrap(); match(); "
+            + "rules() = 1");
     }
 
     private static void feed() {
         Calls.sentence("13: Appends a byte to the buffer.");
-        Calls.run("field(0, 8, 0); rest(1); end(); feed(9); bound(0) = 9; bound(1) = 0; feed(8); bound(0) = 9; bound(1) = 8; put(1, 0) = 8");
-        Calls.run("field(0, 32, 0); field(1, 32, 0); end(); feed(255); feed(0); feed(1); feed(2); feed(3); feed(4); feed(5); feed(6); "
-            + "feed(7) = FULL; bound(0) = 0xFF000102; bound(1) = 0x03040506");
+        Calls.run("field(0, 8, 0); rest(1); end(); feed(9); bound(0) = 9; bound(1) = 0; feed(8); bound(0) = 9; "
+            + "bound(1) = 8; put(1, 0) = 8");
+        Calls.run("field(0, 32, 0); field(1, 32, 0); end(); feed(255); feed(0); feed(1); feed(2); feed(3); feed(4); "
+            + "feed(5); feed(6); feed(7) = FULL; bound(0) = 0xFF000102; bound(1) = 0x03040506");
         Calls.sentence("13: b not 0 to 255 answers BAD_ARG");
         for (String b : NO_BYTE) {
             badArgument("feed(" + b + ")");
@@ -293,21 +324,27 @@ public final class PromisesTest {
             Calls.run("feed(" + b + ") = 1; put(0, 1) = " + b + "; 6 x feed(0); feed(" + b + ") = 8; put(7, 1) = " + b);
         }
         Calls.sentence("13: 8 bytes answers FULL");
-        Calls.run("7 x feed(1); feed(2) = 8; feed(3) = FULL; feed(3) = FULL; put(7, 0) = 2; put(0, 0) = 1; put(8, 0) = BAD_ARG");
+        Calls.run("7 x feed(1); feed(2) = 8; feed(3) = FULL; feed(3) = FULL; put(7, 0) = 2; put(0, 0) = 1; "
+            + "put(8, 0) = BAD_ARG");
         for (String state : States.NO_BYTE_MORE) {
             Calls.changesNothing(state, "feed(0) = FULL");
             Calls.changesNothing(state, "feed(255) = FULL");
         }
         Calls.sentence("13: Otherwise the number of bytes.");
-        Calls.run("feed(0) = 1; feed(0) = 2; feed(0) = 3; feed(0) = 4; feed(0) = 5; feed(0) = 6; feed(0) = 7; feed(0) = 8; empty(); "
-            + "feed(0) = 1");
+        Calls.run("feed(0) = 1; feed(0) = 2; feed(0) = 3; feed(0) = 4; feed(0) = 5; feed(0) = 6; feed(0) = 7; "
+            + "feed(0) = 8; empty(); feed(0) = 1");
     }
 
     private static void put() {
         Calls.sentence("14: Byte i becomes b");
         for (int i = 0; i < 8; i++) {
             String calls = "8 x feed(255); field(0, 32, 0); field(1, 32, 0); end(); put(" + i + ", 0); ";
-            Calls.run(calls + "bound(0) = " + (i < 4 ? ~(255 << 24 - 8 * i) : -1) + "; bound(1) = " + (i < 4 ? -1 : ~(255 << 56 - 8 * i)));
+            Calls.run(calls + "bound(0) = " + (i < 4 ? ~(255 << 24 - 8 * i) : -1) + "; bound(1) = "
+                + (i < 4 ? -1 : ~(255 << 56 - 8 * i)));
+        }
+        for (String state : States.NO_BYTE_MORE) {
+            Calls.changesNothing(state, "put(0, 5) = 0xA1; put(0, 0xA1) = 5");
+            Calls.changesNothing(state, "put(1, 255) = 7; put(7, 2) = 1; put(1, 7) = 255; put(7, 1) = 2");
         }
         Calls.sentence("14: BAD_ARG if there is no byte i");
         String[] noPlace = {"MIN", "-8", "-1", "8", "9", "16", "256", "MAX"};
@@ -333,18 +370,23 @@ public final class PromisesTest {
         }
         Calls.sentence("14: Otherwise the byte before.");
         for (int b = 0; b <= 255; b++) {
-            Calls.run("feed(7); feed(" + b + "); put(1, " + (255 - b) + ") = " + b + "; put(1, " + b + ") = " + (255 - b)
-                + "; put(1, " + b + ") = " + b + "; put(0, " + b + ") = 7");
+            Calls.run("feed(7); feed(" + b + "); put(1, " + (255 - b) + ") = " + b + "; put(1, " + b + ") = "
+                + (255 - b) + "; put(1, " + b + ") = " + b + "; put(0, " + b + ") = 7");
         }
     }
 
     private static void empty() {
         Calls.sentence("15: Empties the buffer.");
         for (int count = 0; count <= 8; count++) {
-            Calls.run("end(); rest(1); end(); " + count + " x feed(9); empty(); fitting() = 3; boundBy(1, 1) = 0; put(0, 0) = BAD_ARG; "
-                + "empty(); feed(8) = 1; boundBy(1, 1) = 8; put(0, 7) = 8");
+            Calls.run("end(); rest(1); end(); " + count + " x feed(9); empty(); fitting() = 3; boundBy(1, 1) = 0; "
+                + "put(0, 0) = BAD_ARG; empty(); feed(8) = 1; boundBy(1, 1) = 8; put(0, 7) = 8");
         }
-        Calls.run(States.SOME + "empty(); rules() = 3; segments() = 2; fitting() = 4; end() = 3; feed(1); feed(2); fitting() = 10; boundBy(3, 1) = 513");
+        for (int count = 0; count <= 6; count++) {
+            String rules = "field(3, 8, 1); rest(2); end(); ".repeat(count);
+            Calls.changesNothing(rules, "empty()");
+            Calls.changesNothing(rules + "field(1, 4, 0); field(2, 4, 1); ", "3 x feed(9); empty()");
+            Calls.changesNothing(rules + "literal(1, 1); rest(0); ", "8 x feed(9); empty()");
+        }
     }
 
     /** Rule k fits if bit k of the only byte is 1, and binds variable 1 to k + 1 bits less than there are. */
@@ -391,8 +433,10 @@ public final class PromisesTest {
             Calls.run(calls);
         }
         Calls.sentence("17: NONE if there is none");
-        Calls.run("matchFrom(0) = NONE; matchFrom(MAX) = NONE; end(); matchFrom(0) = 0; matchFrom(1) = NONE; rest(0); matchFrom(1) = NONE");
-        Calls.run("6 x end(); matchFrom(5) = 5; matchFrom(6) = NONE; matchFrom(7) = NONE; matchFrom(MAX) = NONE; unend(); matchFrom(5) = NONE");
+        Calls.run("matchFrom(0) = NONE; matchFrom(MAX) = NONE; end(); matchFrom(0) = 0; matchFrom(1) = NONE; rest(0); "
+            + "matchFrom(1) = NONE");
+        Calls.run("6 x end(); matchFrom(5) = 5; matchFrom(6) = NONE; matchFrom(7) = NONE; matchFrom(MAX) = NONE; "
+            + "unend(); matchFrom(5) = NONE");
         Calls.run(States.SIX_RULES + "matchFrom(6) = NONE; empty(); matchFrom(6) = NONE");
         for (String state : States.ALL) {
             Calls.changesNothing(state, "matchFrom(6) = NONE");
@@ -411,21 +455,24 @@ public final class PromisesTest {
         Calls.sentence("18: The value of variable x after the rule match() has been matched");
         for (int set = 1; set < 64; set++) {
             int k = Integer.parseInt(least(set, 0));
-            Calls.run(sixBitRules(set) + "bound(1) = " + (7 - k) + "; bound(0) = 0; bound(2) = 0; bound(3) = 0; bound(1) = " + (7 - k));
+            Calls.run(sixBitRules(set) + "bound(1) = " + (7 - k) + "; bound(0) = 0; bound(2) = 0; bound(3) = 0; "
+                + "bound(1) = " + (7 - k));
         }
-        Calls.run("field(0, 8, 0); literal(8, 1); end(); rest(1); end(); feed(9); bound(0) = 0; bound(1) = 8; boundBy(0, 0) = 0; "
-            + "bound(1) = 8; feed(1); bound(0) = 9; bound(1) = 0; boundBy(1, 1) = 16; bound(1) = 0; bound(0) = 9");
-        Calls.run("rest(0); rest(1); end(); field(0, 32, 0); end(); feed(1); feed(2); feed(3); feed(4); bound(0) = 32; bound(1) = 0");
+        Calls.run("field(0, 8, 0); literal(8, 1); end(); rest(1); end(); feed(9); bound(0) = 0; bound(1) = 8; "
+            + "boundBy(0, 0) = 0; bound(1) = 8; feed(1); bound(0) = 9; bound(1) = 0; boundBy(1, 1) = 16; "
+            + "bound(1) = 0; bound(0) = 9");
+        Calls.run("rest(0); rest(1); end(); field(0, 32, 0); end(); feed(1); feed(2); feed(3); feed(4); "
+            + "bound(0) = 32; bound(1) = 0");
         Calls.sentence("18: 0 if none fits");
         Calls.run("bound(0) = 0; bound(1) = 0; bound(2) = 0; bound(3) = 0");
-        Calls.run("field(0, 8, 0); field(1, 8, 0); field(2, 8, 0); field(3, 8, 0); literal(1, 1); end(); feed(9); feed(9); feed(9); "
-            + "feed(9); bound(0) = 0; bound(1) = 0; bound(2) = 0; bound(3) = 0");
-        Calls.run("field(0, 8, 0); end(); feed(9); bound(0) = 9; feed(9); bound(0) = 0; empty(); bound(0) = 0; feed(9); bound(0) = 9; unend(); "
-            + "bound(0) = 0");
+        Calls.run("field(0, 8, 0); field(1, 8, 0); field(2, 8, 0); field(3, 8, 0); literal(1, 1); end(); feed(9); "
+            + "feed(9); feed(9); feed(9); bound(0) = 0; bound(1) = 0; bound(2) = 0; bound(3) = 0");
+        Calls.run("field(0, 8, 0); end(); feed(9); bound(0) = 9; feed(9); bound(0) = 0; empty(); bound(0) = 0; "
+            + "feed(9); bound(0) = 9; unend(); bound(0) = 0");
         Calls.sentence("18: 0 if x is not 0 to 3");
         for (String x : NO_VARIABLE) {
-            Calls.run("4 x feed(9); field(0, 8, 0); field(1, 8, 0); field(2, 8, 0); field(3, 8, 0); end(); bound(" + x + ") = 0; bound(0) = 9; "
-                + "bound(3) = 9");
+            Calls.run("4 x feed(9); field(0, 8, 0); field(1, 8, 0); field(2, 8, 0); field(3, 8, 0); end(); bound("
+                + x + ") = 0; bound(0) = 9; bound(3) = 9");
             for (String state : States.ALL) {
                 Calls.changesNothing(state, "bound(" + x + ") = 0");
             }
@@ -437,15 +484,18 @@ public final class PromisesTest {
         for (int set = 0; set < 64; set++) {
             String calls = sixBitRules(set);
             for (int k = 5; k >= 0; k--) {
-                calls += "boundBy(" + k + ", 1) = " + ((set >> k & 1) == 1 ? 7 - k : 0) + "; boundBy(" + k + ", 2) = 0; ";
+                calls += "boundBy(" + k + ", 1) = " + ((set >> k & 1) == 1 ? 7 - k : 0) + "; boundBy(" + k
+                    + ", 2) = 0; ";
             }
             Calls.run(calls);
         }
-        Calls.run("field(0, 8, 0); field(1, 8, 0); end(); field(1, 8, 0); field(2, 8, 0); end(); feed(9); feed(8); boundBy(0, 0) = 9; "
-            + "boundBy(1, 0) = 0; boundBy(0, 1) = 8; boundBy(1, 1) = 9; boundBy(0, 2) = 0; boundBy(1, 2) = 8; boundBy(0, 3) = 0");
+        Calls.run("field(0, 8, 0); field(1, 8, 0); end(); field(1, 8, 0); field(2, 8, 0); end(); feed(9); feed(8); "
+            + "boundBy(0, 0) = 9; boundBy(1, 0) = 0; boundBy(0, 1) = 8; boundBy(1, 1) = 9; boundBy(0, 2) = 0; "
+            + "boundBy(1, 2) = 8; boundBy(0, 3) = 0");
         Calls.sentence("19: else 0");
-        Calls.run("field(0, 8, 0); end(); field(0, 8, 0); literal(1, 1); end(); field(0, 8, 0); same(0, 1); end(); feed(9); "
-            + "boundBy(0, 0) = 9; boundBy(1, 0) = 0; boundBy(2, 0) = 0; feed(9); boundBy(0, 0) = 0; empty(); boundBy(0, 0) = 0");
+        Calls.run("field(0, 8, 0); end(); field(0, 8, 0); literal(1, 1); end(); field(0, 8, 0); same(0, 1); end(); "
+            + "feed(9); boundBy(0, 0) = 9; boundBy(1, 0) = 0; boundBy(2, 0) = 0; feed(9); boundBy(0, 0) = 0; empty(); "
+            + "boundBy(0, 0) = 0");
         Calls.sentence("19: (also if there is no rule k");
         String[] noRule = {"MIN", "-6", "-1", "6", "7", "8", "42", "MAX"};
         for (String k : noRule) {
@@ -454,13 +504,14 @@ public final class PromisesTest {
                 Calls.changesNothing(state, "boundBy(" + k + ", 2) = 0");
             }
         }
-        Calls.run("feed(1); rest(0); boundBy(0, 0) = 0; end(); boundBy(0, 0) = 8; rest(0); boundBy(1, 0) = 0; boundBy(6, 0) = 0; "
-            + "end(); boundBy(1, 0) = 8; unend(); boundBy(1, 0) = 0; boundBy(0, 0) = 8");
+        Calls.run("feed(1); rest(0); boundBy(0, 0) = 0; end(); boundBy(0, 0) = 8; rest(0); boundBy(1, 0) = 0; "
+            + "boundBy(6, 0) = 0; end(); boundBy(1, 0) = 8; unend(); boundBy(1, 0) = 0; boundBy(0, 0) = 8");
         Calls.run("feed(1); 5 x end(); rest(0); end(); boundBy(5, 0) = 8; rest(0); boundBy(6, 0) = 0");
         Calls.sentence("19: or x is not 0 to 3)");
         for (String x : NO_VARIABLE) {
-            Calls.run("4 x feed(9); field(0, 8, 0); field(1, 8, 0); field(2, 8, 0); field(3, 8, 0); end(); boundBy(0, " + x
-                + ") = 0; boundBy(0, 0) = 9; boundBy(0, 3) = 9; boundBy(-1, " + x + ") = 0; boundBy(6, " + x + ") = 0");
+            Calls.run("4 x feed(9); field(0, 8, 0); field(1, 8, 0); field(2, 8, 0); field(3, 8, 0); end(); "
+                + "boundBy(0, " + x + ") = 0; boundBy(0, 0) = 9; boundBy(0, 3) = 9; boundBy(-1, " + x + ") = 0; "
+                + "boundBy(6, " + x + ") = 0");
             for (String state : States.ALL) {
                 Calls.changesNothing(state, "boundBy(0, " + x + ") = 0");
             }
@@ -470,18 +521,20 @@ public final class PromisesTest {
     private static void fitting() {
         Calls.sentence("20: The set of the rules that fit, as the sum of 2 to the power k.");
         for (int set = 0; set < 64; set++) {
-            Calls.run(sixBitRules(set) + "fitting() = " + set + "; fitting() = " + set + "; unend(); fitting() = " + (set & 31)
-                + "; rest(0); fitting() = " + (set & 31) + "; end(); fitting() = " + (set & 31 | 32));
+            Calls.run(sixBitRules(set) + "fitting() = " + set + "; fitting() = " + set + "; unend(); fitting() = "
+                + (set & 31) + "; rest(0); fitting() = " + (set & 31) + "; end(); fitting() = " + (set & 31 | 32));
         }
-        Calls.run("fitting() = 0; rest(0); fitting() = 0; end(); fitting() = 1; end(); fitting() = 3; feed(0); fitting() = 1");
+        Calls.run("fitting() = 0; rest(0); fitting() = 0; end(); fitting() = 1; end(); fitting() = 3; feed(0); "
+            + "fitting() = 1");
     }
 
     /** A call that the document refuses, one or more for each method that can refuse. */
     private static void refusedCalls() {
         Calls.sentence("A refused call answers the code named and changes nothing.");
-        String[] badArguments = {"literal(17, 0)", "literal(3, 8)", "field(4, 8, 0)", "field(0, 33, 0)", "field(0, 8, 4)",
-            "field(0, 12, 2)", "sized(4, 0, 1)", "sized(0, 4, 1)", "sized(0, 0, 9)", "skip(4, 1)", "skip(0, 0)", "same(4, 0)",
-            "same(0, 4)", "rest(4)", "feed(256)", "put(8, 0)", "put(0, 256)", "matchFrom(-1)"};
+        String[] badArguments = {"literal(17, 0)", "literal(3, 8)", "field(4, 8, 0)", "field(0, 33, 0)",
+            "field(0, 8, 4)", "field(0, 12, 2)", "sized(4, 0, 1)", "sized(0, 4, 1)", "sized(0, 0, 9)", "skip(4, 1)",
+            "skip(0, 0)", "same(4, 0)", "same(0, 4)", "rest(4)", "feed(256)", "put(8, 0)", "put(0, 256)",
+            "matchFrom(-1)"};
         for (String first : badArguments) {
             for (String second : badArguments) {
                 Calls.changesNothing(States.SOME, first + " = BAD_ARG; " + second + " = BAD_ARG");
@@ -497,13 +550,14 @@ public final class PromisesTest {
         }
         Calls.changesNothing(States.SIX_RULES, "end() = FULL; feed(7) = FULL; end() = FULL; feed(8) = FULL");
         Calls.changesNothing(States.THIRTY_IN_SIX, "end() = FULL; rest(0) = FULL; feed(7) = FULL; end() = FULL");
-        Calls.changesNothing("feed(1); rest(0); ", "unend() = NONE; match() = NONE; matchFrom(0) = NONE; unend() = NONE");
+        Calls.changesNothing("feed(1); rest(0); ", "unend() = NONE; match() = NONE; matchFrom(0) = NONE; "
+            + "unend() = NONE");
     }
 
     private static void askingCalls() {
         Calls.sentence("Nothing is promised beyond the answers and state changes described above");
-        String[] asks = {"segments()", "rules()", "match()", "matchFrom(0)", "matchFrom(1)", "bound(0)", "bound(3)", "boundBy(0, 2)",
-            "boundBy(1, 2)", "boundBy(5, 0)", "fitting()"};
+        String[] asks = {"segments()", "rules()", "match()", "matchFrom(0)", "matchFrom(1)", "bound(0)", "bound(3)",
+            "boundBy(0, 2)", "boundBy(1, 2)", "boundBy(5, 0)", "fitting()"};
         for (String state : States.ALL) {
             for (String ask : asks) {
                 Calls.changesNothing(state, ask);

@@ -1,4 +1,4 @@
-/** The sentences of 'What it is' and 'Terms', each with tests of its own: both sides of every boundary that it names. */
+/** The sentences of 'What it is' and 'Terms', each with tests of its own: both sides of every boundary it names. */
 public final class TermsTest {
     private static String ones(int count) {
         return "1".repeat(count);
@@ -65,8 +65,8 @@ public final class TermsTest {
         for (int set = 0; set < 64; set++) {
             String feeds = Calls.feedBits(zeros(set) + "1" + zeros(63 - set));
             for (int read = 0; read < 64; read++) {
-                Calls.run(feeds + Calls.passBits(read) + "field(0, 1, 0); rest(1); end(); bound(0) = " + (set == read ? 1 : 0)
-                    + "; bound(1) = " + (63 - read));
+                Calls.run(feeds + Calls.passBits(read) + "field(0, 1, 0); rest(1); end(); bound(0) = "
+                    + (set == read ? 1 : 0) + "; bound(1) = " + (63 - read));
             }
         }
     }
@@ -83,8 +83,8 @@ public final class TermsTest {
                 Calls.run(calls);
             }
         }
-        Calls.run("field(0, 8, 0); field(1, 8, 0); field(2, 8, 0); field(3, 8, 0); end(); feed(9); feed(8); feed(7); feed(6); "
-            + "bound(0) = 9; bound(1) = 8; bound(2) = 7; bound(3) = 6");
+        Calls.run("field(0, 8, 0); field(1, 8, 0); field(2, 8, 0); field(3, 8, 0); end(); feed(9); feed(8); feed(7); "
+            + "feed(6); bound(0) = 9; bound(1) = 8; bound(2) = 7; bound(3) = 6");
     }
 
     private static void sixRules() {
@@ -97,16 +97,18 @@ public final class TermsTest {
         for (int k = 0; k < 6; k++) {
             calls += "put(0, " + (k + 10) + "); match() = " + k + "; fitting() = " + (1 << k) + "; ";
         }
-        Calls.run(calls + "put(0, 16); match() = NONE; unend() = 5; end() = 5; match() = 5; put(0, 15); match() = NONE");
+        Calls.run(calls + "put(0, 16); match() = NONE; unend() = 5; end() = 5; match() = 5; put(0, 15); "
+            + "match() = NONE");
     }
 
     private static void sixSegments() {
         Calls.sentence("each a list of at most 6 SEGMENTS");
-        String six = "literal(4, 10) = 1; field(0, 4, 0) = 2; sized(1, 0, 8) = 3; skip(0, 4) = 4; same(0, 0) = 5; rest(2) = 6; ";
+        String six = "literal(4, 10) = 1; field(0, 4, 0) = 2; sized(1, 0, 8) = 3; skip(0, 4) = 4; same(0, 0) = 5; "
+            + "rest(2) = 6; ";
         Calls.run(six + "rest(3) = FULL; segments() = 6; end() = 0; feed(0xA2); feed(1); feed(2); feed(3); feed(4); "
             + "match() = 0; bound(0) = 2; bound(1) = 258; bound(2) = 8; bound(3) = 0");
-        Calls.run("6 x literal(1, 1); end(); 5 x literal(1, 1); literal(3, 7); end(); 5 x literal(1, 1); literal(3, 6); end(); "
-            + "feed(0xFF); fitting() = 2; put(0, 0xFE); fitting() = 4");
+        Calls.run("6 x literal(1, 1); end(); 5 x literal(1, 1); literal(3, 7); end(); 5 x literal(1, 1); "
+            + "literal(3, 6); end(); feed(0xFF); fitting() = 2; put(0, 0xFE); fitting() = 4");
     }
 
     private static void thirtySegments() {
@@ -114,38 +116,44 @@ public final class TermsTest {
         Calls.run("6 x literal(0, 0); end(); ".repeat(5) + "rest(0) = FULL; end() = 5; rest(0) = FULL; rules() = 6");
         Calls.run("5 x literal(0, 0); end(); ".repeat(5) + "rest(0) = 1; 3 x rest(0); rest(0) = 5; rest(0) = FULL; "
             + "end() = 5; rest(0) = FULL; unend() = 5; rest(0) = 1");
-        Calls.run("6 x literal(0, 0); end(); ".repeat(4) + "5 x literal(0, 0); end(); rest(0) = 1; rest(0) = FULL; end() = 5");
+        Calls.run("6 x literal(0, 0); end(); ".repeat(4) + "5 x literal(0, 0); end(); rest(0) = 1; rest(0) = FULL; "
+            + "end() = 5");
         String calls = "";
         for (int k = 0; k < 6; k++) {
-            calls += "literal(1, 0); literal(2, 2); literal(1, 1); field(" + k % 4 + ", 4, 0); literal(8, " + k + "); end() = " + k + "; ";
+            calls += "literal(1, 0); literal(2, 2); literal(1, 1); field(" + k % 4 + ", 4, 0); literal(8, " + k + "); "
+                + "end() = " + k + "; ";
         }
         calls += "feed(0x5B); feed(0); ";
         for (int k = 0; k < 6; k++) {
-            calls += "put(1, " + k + "); match() = " + k + "; boundBy(" + k + ", " + k % 4 + ") = 11; fitting() = " + (1 << k) + "; ";
+            calls += "put(1, " + k + "); match() = " + k + "; boundBy(" + k + ", " + k % 4 + ") = 11; fitting() = "
+                + (1 << k) + "; ";
         }
-        Calls.run(calls + "put(0, 0x5B) = 0x5B; put(0, 0xDB); fitting() = 0; put(0, 0x1B); fitting() = 0; put(0, 0x4B); fitting() = 0");
+        Calls.run(calls + "put(0, 0x5B) = 0x5B; put(0, 0xDB); fitting() = 0; put(0, 0x1B); fitting() = 0; "
+            + "put(0, 0x4B); fitting() = 0");
     }
 
     private static void beginning() {
         Calls.sentence("begin at bit 0 with all variables 0");
         Calls.run("field(0, 8, 0); literal(8, 1); end(); same(0, 1); field(1, 8, 0); rest(2); end(); feed(9); feed(2); "
             + "match() = 1; bound(0) = 0; bound(1) = 9; bound(2) = 8");
-        String every = "field(0, 8, 0); field(1, 8, 0); field(2, 8, 0); field(3, 8, 0); rest(0); literal(1, 0); end(); ";
-        Calls.run(every + "rest(1); end(); feed(7); feed(7); feed(7); feed(7); match() = 1; bound(0) = 0; bound(1) = 32; "
-            + "bound(2) = 0; bound(3) = 0; bound(1) = 32; fitting() = 2; match() = 1");
+        String every = "field(0, 8, 0); field(1, 8, 0); field(2, 8, 0); field(3, 8, 0); rest(0); literal(1, 0); "
+            + "end(); ";
+        Calls.run(every + "rest(1); end(); feed(7); feed(7); feed(7); feed(7); match() = 1; bound(0) = 0; "
+            + "bound(1) = 32; bound(2) = 0; bound(3) = 0; bound(1) = 32; fitting() = 2; match() = 1");
         for (int x = 0; x < 4; x++) {
-            Calls.run(every + "skip(" + x + ", 8); rest(0); end(); feed(7); feed(7); feed(7); feed(7); bound(0) = 32; bound(0) = 32");
+            Calls.run(every + "skip(" + x + ", 8); rest(0); end(); feed(7); feed(7); feed(7); feed(7); bound(0) = 32; "
+                + "bound(0) = 32");
         }
     }
 
     private static void segmentsInOrder() {
         Calls.sentence("take its segments in order, each beginning at the bit behind the one before");
-        Calls.run("literal(3, 5); field(0, 6, 0); field(1, 5, 0); literal(2, 1); end(); feed(0xB3); feed(0x6D); match() = 0; "
-            + "bound(0) = 0x26; bound(1) = 0x1B");
-        Calls.run("literal(2, 1); field(1, 5, 0); field(0, 6, 0); literal(3, 5); end(); feed(0xB3); feed(0x6D); match() = NONE; "
-            + "put(0, 0x5A); put(1, 0xF5); match() = 0; bound(1) = 13; bound(0) = 30");
-        Calls.run("field(0, 8, 0); sized(1, 0, 1); rest(2); end(); sized(1, 0, 1); field(0, 8, 0); rest(2); end(); feed(3); feed(0xA0); "
-            + "boundBy(0, 1) = 5; boundBy(0, 2) = 5; boundBy(1, 1) = 0; boundBy(1, 2) = 8");
+        Calls.run("literal(3, 5); field(0, 6, 0); field(1, 5, 0); literal(2, 1); end(); feed(0xB3); feed(0x6D); "
+            + "match() = 0; bound(0) = 0x26; bound(1) = 0x1B");
+        Calls.run("literal(2, 1); field(1, 5, 0); field(0, 6, 0); literal(3, 5); end(); feed(0xB3); feed(0x6D); "
+            + "match() = NONE; put(0, 0x5A); put(1, 0xF5); match() = 0; bound(1) = 13; bound(0) = 30");
+        Calls.run("field(0, 8, 0); sized(1, 0, 1); rest(2); end(); sized(1, 0, 1); field(0, 8, 0); rest(2); end(); "
+            + "feed(3); feed(0xA0); boundBy(0, 1) = 5; boundBy(0, 2) = 5; boundBy(1, 1) = 0; boundBy(1, 2) = 8");
     }
 
     private static void everySegmentAndNoBitLeft() {
@@ -160,7 +168,8 @@ public final class TermsTest {
                 int right = n == 5 ? 0 : 1;
                 calls += "literal(" + width + ", " + (n == unlike ? 1 - right : right) + "); ";
             }
-            Calls.run(calls + "end(); fitting() = 0; put(0, " + (unlike == 5 ? 0xF9 : 0xF8 ^ 0x80 >> unlike) + "); fitting() = 1");
+            Calls.run(calls + "end(); fitting() = 0; put(0, " + (unlike == 5 ? 0xF9 : 0xF8 ^ 0x80 >> unlike) + "); "
+                + "fitting() = 1");
         }
     }
 
@@ -178,7 +187,8 @@ public final class TermsTest {
             Calls.run(Calls.leaving(zeros(w)) + literal + "end(); match() = 0");
             if (w > 0) {
                 Calls.run(Calls.leaving(zeros(w - 1)) + literal + "end(); match() = NONE");
-                Calls.run(Calls.leaving(ones(w - 1)) + "literal(" + w + ", " + number(ones(w - 1)) + "); end(); match() = NONE");
+                Calls.run(Calls.leaving(ones(w - 1)) + "literal(" + w + ", " + number(ones(w - 1)) + "); end(); "
+                    + "match() = NONE");
             }
         }
         Calls.run("literal(0, 0); end(); literal(1, 0); end(); fitting() = 1");
@@ -217,7 +227,8 @@ public final class TermsTest {
                     String field = "field(0, " + w + ", " + flags + "); ";
                     Calls.run(Calls.leaving(ones(w)) + field + "end(); match() = 0");
                     Calls.run(Calls.leaving(ones(w) + "0") + field + "end(); match() = NONE");
-                    Calls.run(Calls.leaving(ones(w) + "01") + field + "field(1, 2, 0); rest(2); end(); bound(1) = 1; bound(2) = 0");
+                    Calls.run(Calls.leaving(ones(w) + "01") + field + "field(1, 2, 0); rest(2); end(); bound(1) = 1; "
+                        + "bound(2) = 0");
                     if (w > 0) {
                         Calls.run(Calls.leaving(ones(w - 1)) + field + "end(); match() = NONE");
                         Calls.run(Calls.leaving(ones(w - 1)) + field + "rest(2); end(); match() = NONE");
@@ -240,23 +251,26 @@ public final class TermsTest {
     }
 
     private static void fieldFirstByteLowest() {
-        Calls.sentence("if e is 1 (then w is 8, 16, 24 or 32) the bytes with the first one lowest, in each byte the first bit highest");
+        Calls.sentence("if e is 1 (then w is 8, 16, 24 or 32) the bytes with the first one lowest, "
+            + "in each byte the first bit highest");
         for (int w = 8; w <= 32; w += 8) {
             for (int set = 0; set < w; set++) {
                 for (int start = 0; start <= 32; start++) {
                     String bits = ones(start) + zeros(set) + "1" + zeros(w - 1 - set) + ones(64 - w - start);
                     int due = 1 << set / 8 * 8 + 7 - set % 8;
-                    Calls.run(Calls.feedBits(bits) + "field(1, " + start + ", 0); field(0, " + w + ", 2); rest(2); end(); bound(0) = " + due
-                        + "; bound(2) = " + (64 - w - start));
+                    Calls.run(Calls.feedBits(bits) + "field(1, " + start + ", 0); field(0, " + w + ", 2); rest(2); "
+                        + "end(); bound(0) = " + due + "; bound(2) = " + (64 - w - start));
                 }
             }
         }
         Calls.run("feed(1); feed(2); feed(3); feed(4); field(0, 32, 2); end(); bound(0) = 0x04030201");
-        Calls.run("feed(0x12); feed(0x34); feed(0x56); field(1, 4, 0); field(0, 16, 2); rest(2); end(); bound(0) = 0x4523; bound(2) = 4");
+        Calls.run("feed(0x12); feed(0x34); feed(0x56); field(1, 4, 0); field(0, 16, 2); rest(2); end(); "
+            + "bound(0) = 0x4523; bound(2) = 4");
     }
 
     private static void fieldUnsigned() {
-        Calls.sentence("With s = 0 the number is the remainder of that modulo 2 to the 32 as an int (so it can be negative only if w is 32)");
+        Calls.sentence("With s = 0 the number is the remainder of that modulo 2 to the 32 as an int "
+            + "(so it can be negative only if w is 32)");
         for (int w = 0; w <= 31; w++) {
             Calls.run(Calls.leaving(ones(w)) + "field(0, " + w + ", 0); end(); bound(0) = " + ((1L << w) - 1));
         }
@@ -309,15 +323,17 @@ public final class TermsTest {
             for (int u = 1; value * u <= 32 && u <= 8; u++) {
                 for (int y = 0; y < 4; y++) {
                     int w = value * u;
-                    Calls.run(leavingWith(y, value, bits) + "sized(" + (y + 1) % 4 + ", " + y + ", " + u + "); rest(" + (y + 2) % 4
-                        + "); end(); match() = 0; bound(" + (y + 1) % 4 + ") = " + (int) number(bits.substring(0, w)) + "; bound("
-                        + (y + 2) % 4 + ") = " + (40 - w) + "; bound(" + y + ") = " + value);
+                    Calls.run(leavingWith(y, value, bits) + "sized(" + (y + 1) % 4 + ", " + y + ", " + u + "); rest("
+                        + (y + 2) % 4 + "); end(); match() = 0; bound(" + (y + 1) % 4 + ") = "
+                        + (int) number(bits.substring(0, w)) + "; bound(" + (y + 2) % 4 + ") = " + (40 - w) + "; "
+                        + "bound(" + y + ") = " + value);
                 }
             }
         }
-        Calls.run("feed(1); feed(0x5F); feed(255); field(0, 8, 0); sized(0, 0, 3); sized(3, 0, 1); rest(2); end(); bound(0) = 2; "
-            + "bound(3) = 3; bound(2) = 11");
-        Calls.run("feed(3); feed(0xBF); sized(1, 0, 8); field(0, 8, 0); sized(2, 0, 1); rest(3); end(); bound(1) = 0; bound(2) = 5; bound(3) = 5");
+        Calls.run("feed(1); feed(0x5F); feed(255); field(0, 8, 0); sized(0, 0, 3); sized(3, 0, 1); rest(2); end(); "
+            + "bound(0) = 2; bound(3) = 3; bound(2) = 11");
+        Calls.run("feed(3); feed(0xBF); sized(1, 0, 8); field(0, 8, 0); sized(2, 0, 1); rest(3); end(); bound(1) = 0; "
+            + "bound(2) = 5; bound(3) = 5");
     }
 
     private static void sizedFrom0To32() {
@@ -331,8 +347,10 @@ public final class TermsTest {
         }
         Calls.run(leavingWith(0, 33, ones(33)) + "sized(1, 0, 1); end(); match() = NONE");
         Calls.run(leavingWith(0, 5, ones(40)) + "sized(1, 0, 8); end(); match() = NONE");
-        Calls.run(feedNumberAnd(Integer.MIN_VALUE, ones(32)) + "field(0, 32, 0); sized(1, 0, 1); rest(2); end(); match() = NONE");
-        Calls.run(feedNumberAnd(Integer.MAX_VALUE, ones(32)) + "field(0, 32, 0); sized(1, 0, 1); rest(2); end(); match() = NONE");
+        Calls.run(feedNumberAnd(Integer.MIN_VALUE, ones(32)) + "field(0, 32, 0); sized(1, 0, 1); rest(2); end(); "
+            + "match() = NONE");
+        Calls.run(feedNumberAnd(Integer.MAX_VALUE, ones(32)) + "field(0, 32, 0); sized(1, 0, 1); rest(2); end(); "
+            + "match() = NONE");
     }
 
     private static void sizedBitsLeft() {
@@ -340,7 +358,8 @@ public final class TermsTest {
         for (int w = 0; w <= 32; w++) {
             Calls.run(leavingWith(0, w, ones(w)) + "sized(1, 0, 1); end(); match() = 0");
             Calls.run(leavingWith(0, w, ones(w) + "0") + "sized(1, 0, 1); end(); match() = NONE");
-            Calls.run(leavingWith(0, w, ones(w) + "01") + "sized(1, 0, 1); field(2, 2, 0); end(); match() = 0; bound(2) = 1");
+            Calls.run(leavingWith(0, w, ones(w) + "01") + "sized(1, 0, 1); field(2, 2, 0); end(); match() = 0; "
+                + "bound(2) = 1");
             if (w > 0) {
                 Calls.run(leavingWith(0, w, ones(w - 1)) + "sized(1, 0, 1); end(); match() = NONE");
                 Calls.run(leavingWith(0, w, ones(w - 1)) + "sized(1, 0, 1); rest(2); end(); match() = NONE");
@@ -356,7 +375,8 @@ public final class TermsTest {
             String[] patterns = {ones(w), zeros(w), "10110011100011110000101001100110".substring(0, w),
                 w == 0 ? "" : "1" + zeros(w - 1), w == 0 ? "" : zeros(w - 1) + "1"};
             for (String bits : patterns) {
-                Calls.run(leavingWith(0, w, bits) + "sized(1, 0, 1); end(); match() = 0; bound(1) = " + (int) number(bits));
+                Calls.run(leavingWith(0, w, bits) + "sized(1, 0, 1); end(); match() = 0; bound(1) = "
+                    + (int) number(bits));
             }
         }
         Calls.run("feed(255); field(0, 8, 0); sized(0, 1, 8); end(); match() = 0; bound(0) = 0");
@@ -370,13 +390,14 @@ public final class TermsTest {
             for (int u = 1; value * u <= 40 && u <= 8; u++) {
                 for (int y = 0; y < 4; y++) {
                     int left = 40 - value * u;
-                    Calls.run(leavingWith(y, value, zeros(40)) + "skip(" + y + ", " + u + "); rest(" + (y + 1) % 4 + "); end(); match() = 0; bound("
-                        + (y + 1) % 4 + ") = " + left + "; bound(" + y + ") = " + value);
+                    Calls.run(leavingWith(y, value, zeros(40)) + "skip(" + y + ", " + u + "); rest(" + (y + 1) % 4
+                        + "); end(); match() = 0; bound(" + (y + 1) % 4 + ") = " + left + "; bound(" + y + ") = "
+                        + value);
                 }
             }
         }
-        Calls.run("feed(3); feed(2); feed(1); skip(0, 8); field(0, 8, 0); skip(0, 1); field(0, 5, 0); skip(0, 3); rest(1); end(); "
-            + "match() = 0; bound(0) = 2; bound(1) = 2");
+        Calls.run("feed(3); feed(2); feed(1); skip(0, 8); field(0, 8, 0); skip(0, 1); field(0, 5, 0); skip(0, 3); "
+            + "rest(1); end(); match() = 0; bound(0) = 2; bound(1) = 2");
     }
 
     private static void skipFromZero() {
@@ -389,7 +410,8 @@ public final class TermsTest {
             }
         }
         Calls.run("skip(0, 8); end(); match() = 0");
-        Calls.run(feedNumberAnd(Integer.MIN_VALUE, ones(32)) + "field(0, 32, 0); skip(0, 1); rest(2); end(); match() = NONE");
+        Calls.run(feedNumberAnd(Integer.MIN_VALUE, ones(32)) + "field(0, 32, 0); skip(0, 1); rest(2); end(); "
+            + "match() = NONE");
         Calls.run(feedNumberAnd(-1, ones(32)) + "field(0, 32, 0); skip(0, 1); rest(2); end(); match() = NONE");
     }
 
@@ -403,12 +425,14 @@ public final class TermsTest {
             }
             if (w <= 54) {
                 Calls.run(leavingWith(0, w, ones(w) + "0") + "skip(0, 1); end(); match() = NONE");
-                Calls.run(leavingWith(0, w, ones(w) + "01") + "skip(0, 1); field(2, 2, 0); end(); match() = 0; bound(2) = 1");
+                Calls.run(leavingWith(0, w, ones(w) + "01") + "skip(0, 1); field(2, 2, 0); end(); match() = 0; "
+                    + "bound(2) = 1");
             }
         }
         Calls.run("feed(0xF0); 7 x feed(0); field(0, 4, 0); skip(0, 4); end(); match() = 0; bound(0) = 15");
         Calls.run("feed(0xF0); 6 x feed(0); field(0, 4, 0); skip(0, 4); end(); match() = NONE");
-        Calls.run(feedNumberAnd(Integer.MAX_VALUE, ones(32)) + "field(0, 32, 0); skip(0, 1); rest(2); end(); match() = NONE");
+        Calls.run(feedNumberAnd(Integer.MAX_VALUE, ones(32)) + "field(0, 32, 0); skip(0, 1); rest(2); end(); "
+            + "match() = NONE");
     }
 
     private static void sameVariables() {
@@ -416,32 +440,38 @@ public final class TermsTest {
         String four = "field(0, 8, 0); field(1, 8, 0); field(2, 8, 0); field(3, 8, 0); ";
         for (int x = 0; x < 4; x++) {
             for (int y = 0; y < 4; y++) {
-                String calls = four + "same(" + x + ", " + y + "); end(); feed(5); feed(6); feed(7); feed(8); match() = "
-                    + (x == y ? "0" : "NONE") + "; ";
-                Calls.run(calls + "put(" + x + ", 9); put(" + y + ", 9); match() = 0; put(" + x + ", 8); match() = " + (x == y ? "0" : "NONE"));
+                String calls = four + "same(" + x + ", " + y + "); end(); feed(5); feed(6); feed(7); feed(8); "
+                    + "match() = " + (x == y ? "0" : "NONE") + "; ";
+                Calls.run(calls + "put(" + x + ", 9); put(" + y + ", 9); match() = 0; put(" + x + ", 8); match() = "
+                    + (x == y ? "0" : "NONE"));
             }
         }
-        Calls.run("field(0, 8, 0); field(1, 8, 1); same(0, 1); end(); feed(127); feed(127); match() = 0; put(0, 255); put(1, 255); match() = NONE");
-        Calls.run("field(0, 32, 0); field(1, 32, 0); same(0, 1); end(); 8 x feed(0); match() = 0; put(0, 128); match() = NONE; "
-            + "put(4, 128); match() = 0; put(3, 1); match() = NONE; put(7, 1); match() = 0; put(5, 1); match() = NONE");
-        Calls.run("field(0, 8, 0); same(0, 1); field(1, 8, 0); end(); field(0, 8, 0); field(1, 8, 0); same(0, 1); end(); feed(5); feed(5); "
-            + "fitting() = 2; put(0, 0); fitting() = 1; put(1, 0); fitting() = 3");
+        Calls.run("field(0, 8, 0); field(1, 8, 1); same(0, 1); end(); feed(127); feed(127); match() = 0; put(0, 255); "
+            + "put(1, 255); match() = NONE");
+        Calls.run("field(0, 32, 0); field(1, 32, 0); same(0, 1); end(); 8 x feed(0); match() = 0; put(0, 128); "
+            + "match() = NONE; put(4, 128); match() = 0; put(3, 1); match() = NONE; put(7, 1); match() = 0; "
+            + "put(5, 1); match() = NONE");
+        Calls.run("field(0, 8, 0); same(0, 1); field(1, 8, 0); end(); field(0, 8, 0); field(1, 8, 0); same(0, 1); "
+            + "end(); feed(5); feed(5); fitting() = 2; put(0, 0); fitting() = 1; put(1, 0); fitting() = 3");
     }
 
     private static void sameUsesNoBits() {
         Calls.sentence("same x y: uses no bits");
         Calls.run("same(0, 1); end(); match() = 0; feed(0); match() = NONE");
         Calls.run("same(0, 1); rest(2); end(); bound(2) = 0; feed(0); bound(2) = 8");
-        Calls.run("field(0, 3, 0); same(0, 0); same(3, 3); field(1, 5, 0); end(); feed(0xB5); bound(0) = 5; bound(1) = 21");
+        Calls.run("field(0, 3, 0); same(0, 0); same(3, 3); field(1, 5, 0); end(); feed(0xB5); bound(0) = 5; "
+            + "bound(1) = 21");
     }
 
     private static void restOfTheBits() {
         Calls.sentence("rest x: always fits; variable x becomes the number of bits left; uses them all up");
         for (int left = 0; left <= 64; left++) {
             for (int x = 0; x < 4; x++) {
-                Calls.run(Calls.leaving(ones(left)) + "rest(" + x + "); end(); match() = 0; bound(" + x + ") = " + left);
+                Calls.run(Calls.leaving(ones(left)) + "rest(" + x + "); end(); match() = 0; bound(" + x + ") = "
+                    + left);
             }
-            Calls.run(Calls.leaving(ones(left)) + "rest(0); rest(1); field(2, 0, 0); end(); match() = 0; bound(0) = " + left + "; bound(1) = 0");
+            Calls.run(Calls.leaving(ones(left)) + "rest(0); rest(1); field(2, 0, 0); end(); match() = 0; bound(0) = "
+                + left + "; bound(1) = 0");
             Calls.run(Calls.leaving(ones(left)) + "rest(0); field(1, 1, 0); end(); match() = NONE");
             Calls.run(Calls.leaving(ones(left)) + "rest(0); literal(1, 1); end(); match() = NONE");
         }
@@ -455,9 +485,11 @@ public final class TermsTest {
             long whole = product + (turns << 32);
             if (turns != 0 && whole % u == 0 && whole / u == (int) (whole / u)) {
                 String begin = feedNumberAnd((int) (whole / u), ones(32)) + "field(0, 32, 0); ";
-                String answers = "rest(2); end(); match() = " + (fits ? "0" : "NONE") + "; bound(2) = " + (fits ? 32 - product : 0);
+                String answers = "rest(2); end(); match() = " + (fits ? "0" : "NONE") + "; bound(2) = "
+                    + (fits ? 32 - product : 0);
                 Calls.run(begin + "skip(0, " + u + "); " + answers);
-                Calls.run(begin + "sized(1, 0, " + u + "); " + answers + "; bound(1) = " + (fits ? (1L << product) - 1 : 0));
+                Calls.run(begin + "sized(1, 0, " + u + "); " + answers + "; bound(1) = "
+                    + (fits ? (1L << product) - 1 : 0));
             }
         }
     }
@@ -473,8 +505,9 @@ public final class TermsTest {
                 wrapsTo(u, edge);
             }
         }
-        Calls.run("field(0, 32, 0); sized(1, 0, 8); end(); feed(0x20); feed(0); feed(0); feed(1); feed(0xAB); match() = 0; bound(1) = 0xAB; "
-            + "put(0, 0x10); match() = NONE; put(0, 0x80); match() = 0; put(0, 0xE0); match() = 0; put(0, 0xF0); match() = NONE");
+        Calls.run("field(0, 32, 0); sized(1, 0, 8); end(); feed(0x20); feed(0); feed(0); feed(1); feed(0xAB); "
+            + "match() = 0; bound(1) = 0xAB; put(0, 0x10); match() = NONE; put(0, 0x80); match() = 0; put(0, 0xE0); "
+            + "match() = 0; put(0, 0xF0); match() = NONE");
     }
 
     private static void nothingThrows() {
@@ -485,8 +518,8 @@ public final class TermsTest {
             for (int a : values) {
                 String one = "rest(" + a + "); feed(" + a + "); matchFrom(" + a + "); bound(" + a + "); ";
                 for (int b : values) {
-                    String two = "literal(" + a + ", " + b + "); skip(" + a + ", " + b + "); same(" + a + ", " + b + "); put(" + a + ", " + b
-                        + "); boundBy(" + a + ", " + b + "); ";
+                    String two = "literal(" + a + ", " + b + "); skip(" + a + ", " + b + "); same(" + a + ", " + b
+                        + "); put(" + a + ", " + b + "); boundBy(" + a + ", " + b + "); ";
                     String three = "";
                     for (int c : values) {
                         three += "field(" + a + ", " + b + ", " + c + "); sized(" + a + ", " + b + ", " + c + "); ";

@@ -7,7 +7,8 @@ import java.util.regex.Matcher;
 import java.util.regex.Pattern;
 
 /**
- * Tests written as texts of calls on a new object, such as "feed(256) = BAD_ARG; 2 x feed(0); rules() = 0": a number and
+ * Tests written as texts of calls on a new object, such as "feed(256) = BAD_ARG; 2 x feed(0); "
+     + "rules() = 0": a number and
  * an x before a call repeat it, and what stands behind "=" is the answer that is due; without it any answer will do.
  */
 final class Calls {
@@ -63,19 +64,24 @@ final class Calls {
         }
     }
 
-    /** The call answers what is due behind the calls before it, and the object then answers as if it had not been called. */
-    static void changesNothing(String before, String call) {
-        run(before + "; " + call);
-        List<Call> without = parse(before);
-        List<Call> with = parse(before + "; " + call);
+    /** The calls answer what is due behind those before, and the object then answers as if they had not been. */
+    static void changesNothing(String before, String calls) {
+        run(before + "; " + calls);
+        alike(before + "; " + calls, before);
+    }
+
+    /** The two texts of calls leave objects that answer later calls alike. */
+    static void alike(String some, String others) {
+        List<Call> first = parse(some);
+        List<Call> second = parse(others);
+        compared++;
         for (List<Call> probe : PROBES) {
-            int[] due = answersBehind(without, probe);
-            int[] got = answersBehind(with, probe);
-            int n = Arrays.mismatch(due, got);
-            compared++;
+            int[] got = answersBehind(first, probe);
+            int[] due = answersBehind(second, probe);
+            int n = Arrays.mismatch(got, due);
             if (n >= 0) {
-                report(call + " after " + before + " has changed something: " + probe.get(n).text() + " answers " + got[n]
-                    + ", without it " + due[n]);
+                report(probe.get(n).text() + ", call " + (n + 1) + " of a probe, answered " + got[n] + " after " + some
+                    + ", but " + due[n] + " after " + others);
                 return;
             }
         }
@@ -217,7 +223,8 @@ final class Calls {
                 boundByAll += "boundBy(" + k + ", " + x + "); ";
             }
         }
-        String[] buffers = {"", "feed(1); ", "feed(255); ", "feed(16); feed(1); ", "feed(0xA2); feed(1); feed(2); feed(200); ",
+        String[] buffers = {"", "feed(1); ", "feed(255); ", "feed(16); feed(1); ", "feed(0xA2); feed(1); feed(2); "
+            + "feed(200); ",
             "feed(0xA1); feed(7); feed(0); feed(0); feed(9); feed(8); feed(0); feed(1); "};
         String rulesOnBuffers = "";
         String madeRuleOnBuffers = "6 x unend(); segments(); end(); ";
@@ -225,11 +232,14 @@ final class Calls {
             rulesOnBuffers += "empty(); " + buffer + "fitting(); " + boundByAll;
             madeRuleOnBuffers += "empty(); " + buffer + "match(); bound(0); bound(1); bound(2); bound(3); ";
         }
-        String bytes = "put(0, 0); put(1, 0); put(2, 0); put(3, 0); put(4, 0); put(5, 0); put(6, 0); put(7, 0); put(8, 0); ";
+        String bytes = "put(0, 0); put(1, 0); put(2, 0); put(3, 0); put(4, 0); put(5, 0); put(6, 0); put(7, 0); "
+            + "put(8, 0); ";
         return List.of(
             parse("segments(); rules(); fitting(); match(); bound(0); bound(1); bound(2); bound(3); " + boundByAll),
             parse(bytes + "9 x feed(0)"),
             parse(rulesOnBuffers),
+            // The rule being made is seen only once it has been ended, for which six rules must first become fewer.
+            parse("end(); " + rulesOnBuffers),
             parse(madeRuleOnBuffers),
             parse("7 x literal(0, 0); " + "unend(); scrap(); 7 x literal(0, 0); ".repeat(6)),
             parse("scrap(); 7 x literal(0, 0); 7 x end()"));
