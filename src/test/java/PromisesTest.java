@@ -36,7 +36,16 @@ public final class PromisesTest {
         }
     }
 
-    private static void asLiteral(String promise, String call) {
+    /** Where the argument is wrong and a limit is reached, the argument counts. */
+    private static void inThisOrder(String wrong, String call) {
+        for (String state : States.NO_SEGMENT_MORE) {
+            Calls.changesNothing(state, wrong + " = BAD_ARG; " + call + " = FULL; " + wrong + " = BAD_ARG");
+        }
+    }
+
+    private static void asLiteral(String promise, String wrong, String call) {
+        Calls.sentence(promise + ": Tested first; then as literal");
+        inThisOrder(wrong, call);
         Calls.sentence(promise + ": then as literal: the rule being made has 6 segments answers FULL");
         sixSegments(call);
         Calls.sentence(promise + ": then as literal: all rules and the one being made have 30 together answers FULL");
@@ -88,6 +97,9 @@ public final class PromisesTest {
         sixSegments("literal(8, 255)");
         Calls.sentence("2: or all rules and the one being made have 30 together, answers FULL");
         thirtySegments("literal(8, 255)");
+        Calls.sentence("2: Tested in this order");
+        inThisOrder("literal(17, 0)", "literal(16, 0)");
+        inThisOrder("literal(8, 256)", "literal(8, 255)");
         Calls.sentence("2: Otherwise the number of its segments afterwards.");
         Calls.run("rest(0); literal(0, 0) = 2; end(); literal(16, 65535) = 1; rest(0); rest(0); literal(1, 1) = 4; "
             + "segments() = 4");
@@ -137,7 +149,11 @@ public final class PromisesTest {
                 badArgument("field(1, " + w + ", 3)");
             }
         }
-        asLiteral("3", "field(0, 8, 3)");
+        Calls.sentence("3: Tested in this order");
+        inThisOrder("field(4, 8, 3)", "field(0, 8, 3)");
+        inThisOrder("field(0, 33, 0)", "field(0, 32, 0)");
+        inThisOrder("field(0, 8, 4)", "field(0, 8, 3)");
+        asLiteral("3", "field(0, 12, 2)", "field(0, 8, 3)");
     }
 
     private static void sized() {
@@ -162,7 +178,7 @@ public final class PromisesTest {
         for (int u = 1; u <= 8; u++) {
             taken("sized(3, 3, " + u + ")");
         }
-        asLiteral("4", "sized(0, 3, 8)");
+        asLiteral("4", "sized(0, 3, 9)", "sized(0, 3, 8)");
     }
 
     private static void skip() {
@@ -185,7 +201,7 @@ public final class PromisesTest {
         for (int u = 1; u <= 8; u++) {
             taken("skip(3, " + u + ")");
         }
-        asLiteral("5", "skip(3, 8)");
+        asLiteral("5", "skip(3, 0)", "skip(3, 8)");
     }
 
     private static void same() {
@@ -203,7 +219,7 @@ public final class PromisesTest {
                 taken("same(" + x + ", " + y + ")");
             }
         }
-        asLiteral("6", "same(0, 3)");
+        asLiteral("6", "same(0, 4)", "same(0, 3)");
     }
 
     private static void rest() {
@@ -216,7 +232,7 @@ public final class PromisesTest {
         for (int x = 0; x <= 3; x++) {
             taken("rest(" + x + ")");
         }
-        asLiteral("7", "rest(3)");
+        asLiteral("7", "rest(4)", "rest(3)");
     }
 
     private static void segments() {
@@ -322,6 +338,10 @@ public final class PromisesTest {
         }
         for (int b = 0; b <= 255; b++) {
             Calls.run("feed(" + b + ") = 1; put(0, 1) = " + b + "; 6 x feed(0); feed(" + b + ") = 8; put(7, 1) = " + b);
+        }
+        Calls.sentence("13: Tested in this order");
+        for (String state : States.NO_BYTE_MORE) {
+            Calls.changesNothing(state, "feed(256) = BAD_ARG; feed(255) = FULL; feed(-1) = BAD_ARG; feed(0) = FULL");
         }
         Calls.sentence("13: 8 bytes answers FULL");
         Calls.run("7 x feed(1); feed(2) = 8; feed(3) = FULL; feed(3) = FULL; put(7, 0) = 2; put(0, 0) = 1; "
