@@ -4,6 +4,14 @@ public final class PromisesTest {
     private static final String[] NO_UNIT = {"MIN", "-8", "-1", "0", "9", "16", "257", "MAX"};
     private static final String[] NO_BYTE = {"MIN", "-256", "-255", "-1", "256", "257", "511", "65536", "MAX"};
 
+    /** Calls that are refused in every state, one or more for each method that can refuse its arguments. */
+    private static final String[] BAD_ARGUMENTS = {"literal(17, 0)", "literal(3, 8)", "field(4, 8, 0)",
+        "field(0, 33, 0)", "field(0, 8, 4)", "field(0, 12, 2)", "sized(4, 0, 1)", "sized(0, 4, 1)", "sized(0, 0, 9)",
+        "skip(4, 1)", "skip(0, 0)", "same(4, 0)", "same(0, 4)", "rest(4)", "feed(256)", "put(8, 0)", "put(0, 256)",
+        "matchFrom(-1)"};
+    private static final String[] APPENDS = {"literal(8, 1)", "field(1, 8, 1)", "sized(2, 2, 2)", "skip(1, 1)",
+        "same(1, 2)", "rest(3)"};
+
     /** Tested before the limits, so answered in every state. */
     private static void badArgument(String call) {
         for (String state : States.ALL) {
@@ -548,22 +556,16 @@ public final class PromisesTest {
             + "fitting() = 1");
     }
 
-    /** A call that the document refuses, one or more for each method that can refuse. */
     private static void refusedCalls() {
         Calls.sentence("A refused call answers the code named and changes nothing.");
-        String[] badArguments = {"literal(17, 0)", "literal(3, 8)", "field(4, 8, 0)", "field(0, 33, 0)",
-            "field(0, 8, 4)", "field(0, 12, 2)", "sized(4, 0, 1)", "sized(0, 4, 1)", "sized(0, 0, 9)", "skip(4, 1)",
-            "skip(0, 0)", "same(4, 0)", "same(0, 4)", "rest(4)", "feed(256)", "put(8, 0)", "put(0, 256)",
-            "matchFrom(-1)"};
-        for (String first : badArguments) {
-            for (String second : badArguments) {
+        for (String first : BAD_ARGUMENTS) {
+            for (String second : BAD_ARGUMENTS) {
                 Calls.changesNothing(States.SOME, first + " = BAD_ARG; " + second + " = BAD_ARG");
             }
         }
-        String[] appends = {"literal(8, 1)", "field(1, 8, 1)", "sized(2, 2, 2)", "skip(1, 1)", "same(1, 2)", "rest(3)"};
         for (String state : States.NO_SEGMENT_MORE) {
-            for (String first : appends) {
-                for (String second : appends) {
+            for (String first : APPENDS) {
+                for (String second : APPENDS) {
                     Calls.changesNothing(state, first + " = FULL; " + second + " = FULL");
                 }
             }
@@ -574,6 +576,35 @@ public final class PromisesTest {
             + "unend() = NONE");
     }
 
+    /** As often as the 512 calls leave room for the calls that look for a change. */
+    private static void refusedOften(String state, String call) {
+        Calls.changesNothing(state, "240 x " + call);
+    }
+
+    private static void callsRefusedOften() {
+        Calls.sentence("A refused call changes nothing, however often it is made.");
+        for (String state : States.ALL) {
+            for (String call : BAD_ARGUMENTS) {
+                refusedOften(state, call + " = BAD_ARG");
+            }
+            refusedOften(state, "matchFrom(6) = NONE");
+        }
+        for (String state : States.NO_SEGMENT_MORE) {
+            for (String call : APPENDS) {
+                refusedOften(state, call + " = FULL");
+            }
+        }
+        for (String state : States.NO_RULE_MORE) {
+            refusedOften(state, "end() = FULL");
+        }
+        for (String state : States.NO_BYTE_MORE) {
+            refusedOften(state, "feed(7) = FULL");
+        }
+        refusedOften(States.NEW, "unend() = NONE");
+        refusedOften(States.NO_RULE, "unend() = NONE");
+        refusedOften(States.NO_RULE, "match() = NONE");
+    }
+
     private static void askingCalls() {
         Calls.sentence("Nothing is promised beyond the answers and state changes described above");
         String[] asks = {"segments()", "rules()", "match()", "matchFrom(0)", "matchFrom(1)", "bound(0)", "bound(3)",
@@ -581,6 +612,7 @@ public final class PromisesTest {
         for (String state : States.ALL) {
             for (String ask : asks) {
                 Calls.changesNothing(state, ask);
+                Calls.changesNothing(state, "240 x " + ask);
             }
         }
     }
@@ -607,6 +639,7 @@ public final class PromisesTest {
         boundBy();
         fitting();
         refusedCalls();
+        callsRefusedOften();
         askingCalls();
         Calls.finish();
     }

@@ -1,5 +1,3 @@
-import java.lang.reflect.InvocationTargetException;
-import java.lang.reflect.Method;
 import java.util.ArrayList;
 import java.util.Arrays;
 import java.util.List;
@@ -7,14 +5,14 @@ import java.util.regex.Matcher;
 import java.util.regex.Pattern;
 
 /**
- * Tests written as texts of calls on a new object, such as "feed(256) = BAD_ARG; 2 x feed(0); "
-     + "rules() = 0": a number and
- * an x before a call repeat it, and what stands behind "=" is the answer that is due; without it any answer will do.
+ * Tests written as texts of calls on a new object, such as "2 x feed(0); feed(256) = BAD_ARG": a number and an x before
+ * a call repeat it, and what stands behind "=" is the answer that is due; without it any answer will do.
  */
 final class Calls {
     private static final Pattern CALL = Pattern.compile("(?:(\\d+) x )?(\\w+)\\(([^()]*)\\)(?: = (\\S+))?");
     /** What the document says of an object holds for so many calls. */
     private static final int MOST_CALLS = 512;
+    private static final int RANDOM_PROBES = 4;
     private static final int MOST_PRINTED = 40;
     private static final List<List<Call>> PROBES = probes();
 
@@ -23,11 +21,8 @@ final class Calls {
     private static int compared = 0;
     private static int wrong = 0;
 
-    private record Call(Method method, Object[] arguments, Integer due) {
-        private String text() {
-            String list = Arrays.toString(arguments);
-            return method.getName() + "(" + list.substring(1, list.length() - 1) + ")";
-        }
+    /** A call and its answer, null if any will do. */
+    private record Row(Call call, Integer due) {
     }
 
     private Calls() {
@@ -49,7 +44,7 @@ final class Calls {
 
     static void finish() {
         closeSentence();
-        System.out.println(sentences + " sentences, " + (wrong == 0 ? "all answers are as due" : wrong + " faults"));
+        System.out.println("sentences: " + sentences + ", " + (wrong == 0 ? "all answers are as due" : wrong + " faults"));
         if (wrong != 0) {
             System.exit(1);
         }
@@ -57,10 +52,10 @@ final class Calls {
 
     /** Runs the calls on a new object and compares every answer that is due. */
     static void run(String text) {
-        List<Call> calls = parse(text);
-        int[] answers = answers(calls);
+        List<Row> rows = rows(text);
+        int[] answers = answers(calls(rows));
         for (int n = 0; n < answers.length; n++) {
-            compare(calls, n, answers[n]);
+            compare(rows, n, answers[n]);
         }
     }
 
@@ -72,15 +67,17 @@ final class Calls {
 
     /** The two texts of calls leave objects that answer later calls alike. */
     static void alike(String some, String others) {
-        List<Call> first = parse(some);
-        List<Call> second = parse(others);
+        List<Call> first = calls(rows(some));
+        List<Call> second = calls(rows(others));
+        int most = MOST_CALLS - Math.max(first.size(), second.size());
         compared++;
         for (List<Call> probe : PROBES) {
-            int[] got = answersBehind(first, probe);
-            int[] due = answersBehind(second, probe);
+            List<Call> later = probe.subList(0, Math.min(most, probe.size()));
+            int[] got = answersBehind(first, later);
+            int[] due = answersBehind(second, later);
             int n = Arrays.mismatch(got, due);
             if (n >= 0) {
-                report(probe.get(n).text() + ", call " + (n + 1) + " of a probe, answered " + got[n] + " after " + some
+                report(later.get(n).text() + ", call " + (n + 1) + " of a probe, answered " + got[n] + " after " + some
                     + ", but " + due[n] + " after " + others);
                 return;
             }
@@ -108,55 +105,59 @@ final class Calls {
         return feedBits("0".repeat(passed) + bits) + passBits(passed);
     }
 
-    private static void report(String what) {
+    static void report(String what) {
         wrong++;
         if (wrong <= MOST_PRINTED) {
             System.out.println("\"" + sentence + "\": " + what);
         }
     }
 
-    private static void compare(List<Call> calls, int n, int answer) {
-        Call call = calls.get(n);
-        if (call.due() == null) {
+    private static void compare(List<Row> rows, int n, int answer) {
+        Row row = rows.get(n);
+        if (row.due() == null) {
             return;
         }
         compared++;
-        if (answer != call.due()) {
+        if (answer != row.due()) {
             StringBuilder before = new StringBuilder();
-            for (Call earlier : calls.subList(0, n)) {
-                before.append(earlier.text()).append("; ");
+            for (Row earlier : rows.subList(0, n)) {
+                before.append(earlier.call().text()).append("; ");
             }
-            report("after " + before + call.text() + " answered " + answer + ", due is " + call.due());
+            report("after " + before + row.call().text() + " answered " + answer + ", due is " + row.due());
         }
     }
 
-    private static List<Call> parse(String text) {
-        List<Call> calls = new ArrayList<>();
+    private static List<Row> rows(String text) {
+        List<Row> rows = new ArrayList<>();
         for (String part : text.split(";")) {
             if (!part.isBlank()) {
-                addCalls(calls, part.strip());
+                addRows(rows, part.strip());
             }
         }
-        return calls;
+        return rows;
     }
 
-    private static void addCalls(List<Call> calls, String part) {
+    private static void addRows(List<Row> rows, String part) {
         Matcher found = CALL.matcher(part);
         if (!found.matches()) {
             throw new IllegalArgumentException("no call: " + part);
         }
         String list = found.group(3).strip();
         String[] words = list.isEmpty() ? new String[0] : list.split(",");
-        Object[] arguments = new Object[words.length];
+        int[] arguments = new int[words.length];
         for (int n = 0; n < words.length; n++) {
             arguments[n] = number(words[n].strip());
         }
         Integer due = found.group(4) == null ? null : number(found.group(4));
-        Call call = new Call(method(found.group(2), words.length), arguments, due);
+        Row row = new Row(new Call(found.group(2), arguments), due);
         int times = found.group(1) == null ? 1 : Integer.parseInt(found.group(1));
         for (int n = 0; n < times; n++) {
-            calls.add(call);
+            rows.add(row);
         }
+    }
+
+    private static List<Call> calls(List<Row> rows) {
+        return rows.stream().map(Row::call).toList();
     }
 
     private static int number(String word) {
@@ -176,15 +177,6 @@ final class Calls {
         }
     }
 
-    private static Method method(String name, int parameters) {
-        for (Method method : BitSyntaxMatch.class.getMethods()) {
-            if (method.getName().equals(name) && method.getParameterCount() == parameters) {
-                return method;
-            }
-        }
-        throw new IllegalArgumentException("no method " + name + " with " + parameters + " parameters");
-    }
-
     private static int[] answers(List<Call> calls) {
         if (calls.size() > MOST_CALLS) {
             throw new IllegalArgumentException("more than " + MOST_CALLS + " calls");
@@ -199,13 +191,10 @@ final class Calls {
 
     private static int answer(BitSyntaxMatch made, Call call) {
         try {
-            Object answer = call.method().invoke(made, call.arguments());
-            return answer == null ? 0 : (Integer) answer;
-        } catch (InvocationTargetException e) {
-            report(call.text() + " threw " + e.getCause());
+            return call.answerOf(made);
+        } catch (ArithmeticException | IndexOutOfBoundsException | NegativeArraySizeException e) {
+            report(call.text() + " threw " + e);
             return 0;
-        } catch (IllegalAccessException e) {
-            throw new IllegalStateException(e);
         }
     }
 
@@ -216,6 +205,7 @@ final class Calls {
         return Arrays.copyOfRange(answers, before.size(), answers.length);
     }
 
+    /** Later calls that look at one part of an object each, and random ones up to the last call that is promised. */
     private static List<List<Call>> probes() {
         String boundByAll = "";
         for (int k = 0; k < 6; k++) {
@@ -223,8 +213,8 @@ final class Calls {
                 boundByAll += "boundBy(" + k + ", " + x + "); ";
             }
         }
-        String[] buffers = {"", "feed(1); ", "feed(255); ", "feed(16); feed(1); ", "feed(0xA2); feed(1); feed(2); "
-            + "feed(200); ",
+        String[] buffers = {"", "feed(1); ", "feed(255); ", "feed(16); feed(1); ",
+            "feed(0xA2); feed(1); feed(2); feed(200); ",
             "feed(0xA1); feed(7); feed(0); feed(0); feed(9); feed(8); feed(0); feed(1); "};
         String rulesOnBuffers = "";
         String madeRuleOnBuffers = "6 x unend(); segments(); end(); ";
@@ -234,14 +224,31 @@ final class Calls {
         }
         String bytes = "put(0, 0); put(1, 0); put(2, 0); put(3, 0); put(4, 0); put(5, 0); put(6, 0); put(7, 0); "
             + "put(8, 0); ";
-        return List.of(
-            parse("segments(); rules(); fitting(); match(); bound(0); bound(1); bound(2); bound(3); " + boundByAll),
-            parse(bytes + "9 x feed(0)"),
-            parse(rulesOnBuffers),
+        String[] texts = {
+            "segments(); rules(); fitting(); match(); bound(0); bound(1); bound(2); bound(3); " + boundByAll,
+            bytes + "9 x feed(0)",
+            rulesOnBuffers,
             // The rule being made is seen only once it has been ended, for which six rules must first become fewer.
-            parse("end(); " + rulesOnBuffers),
-            parse(madeRuleOnBuffers),
-            parse("7 x literal(0, 0); " + "unend(); scrap(); 7 x literal(0, 0); ".repeat(6)),
-            parse("scrap(); 7 x literal(0, 0); 7 x end()"));
+            "end(); " + rulesOnBuffers,
+            madeRuleOnBuffers,
+            "7 x literal(0, 0); " + "unend(); scrap(); 7 x literal(0, 0); ".repeat(6),
+            "scrap(); 7 x literal(0, 0); 7 x end()"};
+        List<List<Call>> probes = new ArrayList<>();
+        for (String text : texts) {
+            probes.add(calls(rows(text)));
+        }
+        for (int n = 1; n <= RANDOM_PROBES; n++) {
+            probes.add(randomCalls(n));
+        }
+        return probes;
+    }
+
+    private static List<Call> randomCalls(int seed) {
+        RandomCalls random = new RandomCalls(seed);
+        List<Call> calls = new ArrayList<>();
+        while (calls.size() < MOST_CALLS) {
+            calls.add(random.next());
+        }
+        return calls;
     }
 }
