@@ -44,7 +44,8 @@ final class Calls {
 
     static void finish() {
         closeSentence();
-        System.out.println("sentences: " + sentences + ", " + (wrong == 0 ? "all answers are as due" : wrong + " faults"));
+        String found = wrong == 0 ? "all answers are as due" : wrong + " faults";
+        System.out.println("sentences: " + sentences + ", " + found);
         if (wrong != 0) {
             System.exit(1);
         }
